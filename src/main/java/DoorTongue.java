@@ -41,6 +41,7 @@ public final class DoorTongue {
     private static final int MOST_TOLD_DOORS = 6;
     private static final int MOST_GALE = 12;
 
+    // SOUNDS from 0 on: slam, shut, latch, ajar.
     private static final int SOUNDS = 4;
     private static final int SLAM = 0;
     private static final int AJAR = 3;
@@ -1148,47 +1149,49 @@ public final class DoorTongue {
             value = 0;
             keyword = NONE;
             name = 0L;
-            if (start < length) {
-                takeLetters();
-                takeDigits();
-                takeSign();
+            if (start >= length) {
+                return;
             }
-        }
-
-        private void takeLetters() {
-            long code = 0L;
-            while (end < length && text[end] >= 'a' && text[end] <= 'z') {
-                code = code * 32L + (text[end] - 'a' + 1);
-                end++;
-            }
-            if (end > start) {
+            if (isRunOf('a', 'z')) {
                 kind = LETTERS;
                 keyword = findKeyword();
-                // A name that is too long is none, and its code would have run over.
-                name = keyword == NONE && end - start <= LONGEST_NAME ? code : 0L;
+                name = keyword == NONE ? nameCode() : 0L;
+            } else if (isRunOf('0', '9')) {
+                kind = end - start <= LONGEST_NUMBER ? NUMBER : NO_TOKEN;
+                value = kind == NUMBER ? numberValue() : 0;
+            } else {
+                end = start + 1;
+                value = text[start];
+                kind = value == ';' || value == '<' || value == '>' || value == '=' ? SIGN : NO_TOKEN;
             }
         }
 
-        private void takeDigits() {
-            if (kind != OVER) {
-                return;
-            }
-            while (end < length && text[end] >= '0' && text[end] <= '9') {
-                value = Math.min(value * 10 + (text[end] - '0'), 99999);
+        // Puts the end behind the run, as long as it goes.
+        private boolean isRunOf(char least, char most) {
+            while (end < length && text[end] >= least && text[end] <= most) {
                 end++;
             }
-            if (end > start) {
-                kind = end - start <= LONGEST_NUMBER ? NUMBER : NO_TOKEN;
-            }
+            return end > start;
         }
 
-        private void takeSign() {
-            if (kind != OVER) {
-                return;
+        // 0 for what is too long for a NAME: its code would run over.
+        private long nameCode() {
+            if (end - start > LONGEST_NAME) {
+                return 0L;
             }
-            value = text[start];
-            end = start + 1;
-            kind = value == ';' || value == '<' || value == '>' || value == '=' ? SIGN : NO_TOKEN;
+            long code = 0L;
+            for (int i = start; i < end; i++) {
+                code = code * 32L + (text[i] - 'a' + 1);
+            }
+            return code;
+        }
+
+        private int numberValue() {
+            int number = 0;
+            for (int i = start; i < end; i++) {
+                number = number * 10 + (text[i] - '0');
+            }
+            return number;
         }
 
         private int findKeyword() {
@@ -1225,6 +1228,7 @@ public final class DoorTongue {
             return kind == SIGN && value == sign;
         }
 
+        // The words of the text for SOUNDS stand in their order.
         boolean isSoundWord() {
             return keyword >= SLAM_WORD && keyword < SLAM_WORD + SOUNDS;
         }
@@ -1510,7 +1514,8 @@ public final class DoorTongue {
                     fine = readEnd(days);
                 } else {
                     int at = beginStep(days);
-                    fine = at != NONE && readRest(days, house, at) && tokens.passSign(';');
+                    fine = at != NONE && readTest(days, house, at) && readRest(days, house, at)
+                        && tokens.passSign(';');
                 }
             }
             days.there = fine;
@@ -1573,8 +1578,6 @@ public final class DoorTongue {
                     return readWho(days, house, at) && readWhat(days, at, 0, house.doors - 1);
                 case FORGET_WORD:
                     return readWho(days, house, at);
-                case WHEN_WORD:
-                    return readTest(days, house, at);
                 case LOOP_WORD:
                     return readWhat(days, at, 1, MOST_LOOPS);
                 default:
@@ -1582,7 +1585,11 @@ public final class DoorTongue {
             }
         }
 
+        // Reads nothing where the STEP is no when.
         private boolean readTest(Days days, House house, int at) {
+            if (days.kinds[at] != WHEN_WORD) {
+                return true;
+            }
             int word = tokens.keyword;
             days.tests[at] = word;
             if (word != IN_WORD && word != OPEN_WORD && word != HEARD_WORD) {
@@ -1638,6 +1645,8 @@ public final class DoorTongue {
         // More than any way can cost, and far from where sums run over.
         private static final int NO_WAY = 1000000;
 
+        private static final int[] LOUD = {9, 6, 3, 1};
+
         private final int[] lost = new int[MOST_ROOMS];
 
         int lossBetween(House house, int room, int other) {
@@ -1669,16 +1678,7 @@ public final class DoorTongue {
 
         // For a PERSON and a SOUND at the DOOR from which it was spread latest.
         private boolean comesTo(House house, int person, int sound) {
-            return loudness(sound) - lost[house.roomOf[person]] > house.deafness[person];
-        }
-
-        private static int loudness(int sound) {
-            switch (sound) {
-                case 0: return 9;
-                case 1: return 6;
-                case 2: return 3;
-                default: return 1;
-            }
+            return LOUD[sound] - lost[house.roomOf[person]] > house.deafness[person];
         }
 
         int hearersOf(House house, int door, int sound, int maker) {
@@ -1858,28 +1858,25 @@ public final class DoorTongue {
         int findDoubt(House house, int known) {
             before[0] = 1;
             for (int length = 1; length <= MOST_DOUBT; length++) {
-                many = 0;
-                if (extendToDoubt(house, known, length)) {
+                if (extendToDoubt(house, known, 0, length)) {
                     return length;
                 }
             }
             return NONE;
         }
 
-        private boolean extendToDoubt(House house, int known, int length) {
-            if (many >= length) {
-                return before[many] > 1;
+        private boolean extendToDoubt(House house, int known, int at, int length) {
+            if (at >= length) {
+                return before[at] > 1;
             }
-            int at = many;
             for (int sound = 0; sound < SOUNDS; sound++) {
                 row[at] = sound;
                 many = at + 1;
                 before[many] = countEndings(house, known);
-                if (canGoOn(house, known) && extendToDoubt(house, known, length)) {
+                if (canBeTwo(house, known) && extendToDoubt(house, known, at + 1, length)) {
                     return true;
                 }
             }
-            many = at;
             return false;
         }
 
@@ -1894,28 +1891,27 @@ public final class DoorTongue {
             return count;
         }
 
-        // Rows that begin no READING at all are left, as there are very many of them.
-        private boolean canGoOn(House house, int known) {
-            if (before[many] > 0) {
-                return true;
-            }
+        // Two READINGS of the shortest row begin with unlike WORDS, as without a first WORD that
+        // is the same a shorter row would do: so two must be begun at each of its places.
+        private boolean canBeTwo(House house, int known) {
+            int begun = before[many];
             for (int from = Math.max(0, many - MOST_SAID + 1); from < many; from++) {
-                if (before[from] > 0 && beginsWord(house, known, from)) {
-                    return true;
-                }
+                begun += before[from] * countBegun(house, known, from);
             }
-            return false;
+            return begun > 1;
         }
 
-        private boolean beginsWord(House house, int known, int from) {
+        // WORDS that say what stands from a place on, and then more.
+        private int countBegun(House house, int known, int from) {
+            int count = 0;
             int length = many - from;
             for (int w = 0; w < house.words; w++) {
                 if (contains(known, w) && house.wordLength[w] > length
                         && agrees(house, w, from, length)) {
-                    return true;
+                    count++;
                 }
             }
-            return false;
+            return count;
         }
     }
 
