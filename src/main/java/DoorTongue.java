@@ -1097,15 +1097,9 @@ public final class DoorTongue {
             if (length >= kinds.length) {
                 return NONE;
             }
-            int at = length;
-            kinds[at] = kind;
-            tests[at] = NONE;
-            who[at] = 0;
-            what[at] = 0;
-            how[at] = 0;
-            partner[at] = at;
+            kinds[length] = kind;
             length++;
-            return at;
+            return length - 1;
         }
     }
 
@@ -1633,7 +1627,9 @@ public final class DoorTongue {
                 days.how[at] = -1;
             } else if (tokens.isSign('>')) {
                 days.how[at] = 1;
-            } else if (!tokens.isSign('=')) {
+            } else if (tokens.isSign('=')) {
+                days.how[at] = 0;
+            } else {
                 return tokens.flaw(2);
             }
             tokens.advance();

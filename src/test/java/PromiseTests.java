@@ -114,8 +114,10 @@ public final class PromiseTests {
         Check.bad(x, "tray(0, 0, -1)", x.tray(0, 0, -1), 1);
         Check.bad(x, "tray(BIG)", x.tray(BIG, LOW, BIG), 1);
         Check.good(x, "read(0, 5)", x.read(0, 5), 9);
+        x.write(0, 0, 8);
         x.tray(0, 0, 10);
         Check.good(x, "read(0, 5) of a new row", x.read(0, 5), 0);
+        Check.good(x, "read(0, 0) of a new row", x.read(0, 0), 0);
         Check.bad(x, "read(0, 10)", x.read(0, 10), 3);
     }
 
@@ -193,6 +195,7 @@ public final class PromiseTests {
     private static void texts() {
         promise9();
         promise10();
+        promise10Anew();
         promise10Limits();
         promise10Faults();
         promise11();
@@ -250,6 +253,32 @@ public final class PromiseTests {
         Check.good(x, "door(0, 2)", x.door(0, 2), 9);
         Check.good(x, "person(0, 1)", x.person(0, 1), 3);
         Check.good(x, "house(7 bytes)", cutHouse(x, "room a;room", 7), 0);
+    }
+
+    /** Nothing of a HOUSE that was there ahead comes again. */
+    private static void promise10Anew() {
+        DoorTongue x = new DoorTongue();
+        for (int i = 0; i < 3; i++) {
+            Check.good(x, "house()", Check.house(x, "odds 9;" + PAIR.replace("in b", "in b deaf 9 knows w")
+                .replace("person p", "word w says slam;person p")), 2);
+            x.deafen(0, 4);
+            x.deafen(1, 0);
+            x.teach(0, 0, true);
+            Check.good(x, "close(0, 0, 3)", x.close(0, 0, 3), 2);
+            x.go(0, 0);
+            Check.good(x, "close(1, 0, 2)", x.close(1, 0, 2), 0);
+        }
+        Check.good(x, "house()", Check.house(x, "room a;"), 0);
+        int[] want = {1, 0, 0, 0, 4, 0, 0};
+        for (int i = 0; i < 7; i++) {
+            Check.good(x, "told(" + i + ")", x.told(i), want[i]);
+        }
+        for (int p = 0; p < 2; p++) {
+            Check.good(x, "come(0)", x.come(0), p);
+            for (int w = 0; w < 4; w++) {
+                Check.good(x, "person(" + p + ", " + w + ")", x.person(p, w), 0);
+            }
+        }
     }
 
     private static int cutHouse(DoorTongue x, String text, int n) {
@@ -358,6 +387,11 @@ public final class PromiseTests {
         houseFault("room a;person p in a knows abcdefghi;", 2, 27);
         houseFault("room a;word w says ajar;person p in a knows w w;", 5, 46);
         houseFault("room a;word w says ajar;person p in a knows w", 2, 45);
+        String seven = "room a;word b says slam;word c says shut;word d says latch;word e says ajar;"
+            + "word f says slam slam;word g says slam shut;word h says slam latch;person p in a knows b c d e f g h ";
+        houseFault(seven + "b;", 5, seven.length());
+        houseFault(seven + "a;", 3, seven.length());
+        houseFault(seven + "in;", 2, seven.length());
         String people = "room a;person b in a;person c in a;person d in a;person e in a;person f in a;";
         houseFault(people + "person $", 6, people.length());
     }
@@ -833,6 +867,14 @@ public final class PromiseTests {
         Check.bad(x, "readings(-1)", x.readings(-1), 1);
         x.teach(1, 0, false);
         Check.good(x, "readings(1)", x.readings(1), 0);
+        x = Check.with(SPEECH);
+        for (int i = 0; i < 3; i++) {
+            x.close(0, 0, 3);
+        }
+        x.readings(0);
+        Check.good(x, "firstAt(1, 0) ahead of first(1)", x.firstAt(1, 0), 0);
+        x.readings(0);
+        Check.good(x, "first(1) ahead of readings(1)", x.first(1), 3);
         x = Check.with("room a;room b;door a b open;word u says latch;word x says slam latch;word y says slam;"
             + "word z says latch ajar;person p in a;person q in b knows u x y z;");
         int[] row = {0, 2, 3};
@@ -1336,9 +1378,28 @@ public final class PromiseTests {
         Check.good(x, "read(2, 0): TRAYS stay", x.read(2, 0), 0);
         Check.good(x, "days() of the NAMES taken back", Check.days(x, "go p 0;when in q b;end;"), 2);
         Check.good(x, "lived(0) stays", x.lived(1) >= 0 ? 1 : 0, 1);
+        daysTakenBack();
+    }
+
+    private static void daysTakenBack() {
+        String days = "when heard q = 0;loop 2;close p 0 ajar;end;end;when in q b;go q 0;end;when open 0;go p 0;end;"
+            + "when heard q > 1;forget q;end;";
+        String others = "loop 9;any;end;when in p a;forget p;end;when heard p < 8;any;end;close q 0 latch;open p 0;"
+            + "loop 8;when in q a;any;end;end;";
+        DoorTongue x = Check.with(PAIR, days);
         x.mark();
-        x.days(0);
-        x.undo();
-        Check.good(x, "live(0) of the DAYS taken back", x.live(0), 2);
+        x.live(0);
+        livedIs(x, 0, 2, 2, 2, 0);
+        for (int i = 0; i < 3; i++) {
+            Check.days(x, others);
+            Check.good(x, "live(1) of others", x.live(1) > 9 ? 1 : 0, 1);
+        }
+        Check.good(x, "undo()", x.undo(), 0);
+        Check.good(x, "live(0) of the DAYS taken back", x.live(0), 10);
+        livedIs(x, 0, 2, 2, 2, 0);
+        Check.good(x, "person(0, 0)", x.person(0, 0), 1);
+        Check.good(x, "person(1, 0)", x.person(1, 0), 0);
+        Check.good(x, "live(0) again", x.live(0), 9);
+        livedIs(x, 0, 2, 2, 1, 0);
     }
 }
