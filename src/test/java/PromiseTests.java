@@ -392,6 +392,12 @@ public final class PromiseTests {
         houseFault(seven + "b;", 5, seven.length());
         houseFault(seven + "a;", 3, seven.length());
         houseFault(seven + "in;", 2, seven.length());
+        String rooms = "room a;room b;room c;room d;room e;room f;room g;";
+        houseFault(rooms + "room $", 6, rooms.length());
+        String doors = "room a;room b;" + "door a b;".repeat(10);
+        houseFault(doors + "door $", 6, doors.length());
+        String words = seven.substring(0, seven.indexOf("person"));
+        houseFault(words + "word 1", 6, words.length());
         String people = "room a;person b in a;person c in a;person d in a;person e in a;person f in a;";
         houseFault(people + "person $", 6, people.length());
     }
@@ -1190,6 +1196,7 @@ public final class PromiseTests {
         promise53();
         promise53Steps();
         promise53Most();
+        promise53Anew();
         promise54();
         promise55();
     }
@@ -1290,6 +1297,15 @@ public final class PromiseTests {
         x = Check.with(PAIR, "loop 99;when open 0;end;end;");
         Check.good(x, "live(0)", x.live(0), 100);
         Check.good(x, "lived(4)", x.lived(4), 0);
+    }
+
+    private static void promise53Anew() {
+        DoorTongue x = Check.with(PAIR, "loop 99;close p 0 slam;go p 0;open p 0;loop 9;end;end;");
+        Check.good(x, "live(0)", x.live(0), 300);
+        Check.good(x, "lived(4)", x.lived(4), 1);
+        x.days(0);
+        Check.good(x, "live(0) of no STEPS", x.live(0), 0);
+        livedIs(x, 0, 0, 0, 0, 0);
     }
 
     private static void promise54() {
