@@ -1,16 +1,32 @@
 import java.util.Arrays;
+import java.util.Set;
+import java.util.TreeSet;
 
 /** What the tests share: counting what is wrong, and handing texts to a DoorTongue. */
 final class Check {
     private static int wrong = 0;
     private static int asked = 0;
     private static String where = "";
+    private static final Set<String> REFUSED = new TreeSet<>();
+
+    /** The words of the text that are no NAMES. */
+    static final String[] RESERVED = ("odds room door baize open word says slam shut latch ajar person in deaf knows "
+        + "close go forget any when heard loop end stop").split(" ");
 
     private Check() {
     }
 
     static void at(String place) {
         where = place;
+    }
+
+    static int asked() {
+        return asked;
+    }
+
+    /** Whether bad() has asked for that STATUS of that call. */
+    static boolean wasRefused(String call, int status) {
+        return REFUSED.contains(call + ' ' + status);
     }
 
     static void due(String call, long got, long want) {
@@ -39,11 +55,13 @@ final class Check {
 
     /** NONE with that STATUS. */
     static void bad(DoorTongue x, String call, long got, int status) {
+        REFUSED.add(call.split("\\(")[0] + ' ' + status);
         due(call, got, -1);
         due(call + " STATUS", x.status(), status);
     }
 
     static void bad(DoorTongue x, String call, boolean got, int status) {
+        REFUSED.add(call.split("\\(")[0] + ' ' + status);
         due(call, got, false);
         due(call + " STATUS", x.status(), status);
     }
@@ -83,6 +101,45 @@ final class Check {
     static int days(DoorTongue x, String text) {
         feed(x, text);
         return x.days(text.length());
+    }
+
+    /** On a new object; ^ stands in the text where its FAULT is. */
+    static void houseFault(String marked, int kind) {
+        DoorTongue x = new DoorTongue();
+        String text = unmarked(marked);
+        bad(x, "house(" + text + ")", house(x, text), 9);
+        due("fault(0) of " + text, x.fault(0), kind);
+        due("fault(1) of " + text, x.fault(1), marked.indexOf('^'));
+    }
+
+    static void daysFault(String house, String marked, int kind) {
+        DoorTongue x = with(house);
+        String text = unmarked(marked);
+        bad(x, "days(" + text + ")", days(x, text), 9);
+        due("fault(0) of " + text, x.fault(0), kind);
+        due("fault(1) of " + text, x.fault(1), marked.indexOf('^'));
+    }
+
+    private static String unmarked(String marked) {
+        int place = marked.indexOf('^');
+        return marked.substring(0, place) + marked.substring(place + 1);
+    }
+
+    /** A HOUSE that has no FAULT, on a new object. */
+    static DoorTongue houseTaken(String text, int people) {
+        DoorTongue x = new DoorTongue();
+        good(x, "house(" + text + ")", house(x, text), people);
+        due("fault(0) of " + text, x.fault(0), 0);
+        due("fault(1) of " + text, x.fault(1), -1);
+        return x;
+    }
+
+    static DoorTongue daysTaken(String house, String text, int steps) {
+        DoorTongue x = with(house);
+        good(x, "days(" + text + ")", days(x, text), steps);
+        due("fault(0) of " + text, x.fault(0), 0);
+        due("fault(1) of " + text, x.fault(1), -1);
+        return x;
     }
 
     static DoorTongue with(String house) {

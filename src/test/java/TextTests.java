@@ -24,22 +24,21 @@ public final class TextTests {
     public static void main(String[] args) {
         Luck luck = new Luck(2026);
         TextModel house = TextModel.house(HOUSE);
-        DoorTongue x = Check.with(HOUSE);
         int right = 0;
         for (int i = 0; i < TEXTS; i++) {
             Check.at("text " + i);
             boolean ofHouse = luck.once(2);
             String[] from = ofHouse ? HOUSES : DAYS;
             String text = spoilt(luck, from[luck.below(from.length)], ofHouse ? 900 : 300);
-            right += compare(x, text, ofHouse, house) ? 1 : 0;
+            right += compare(text, ofHouse, house) ? 1 : 0;
         }
         Check.due("many were right", right > TEXTS / 50, true);
         Check.due("many were wrong", right < TEXTS / 2, true);
         System.exit(Check.close("TextTests"));
     }
 
-    private static boolean compare(DoorTongue x, String text, boolean ofHouse, TextModel house) {
-        x.mark();
+    private static boolean compare(String text, boolean ofHouse, TextModel house) {
+        DoorTongue x = Check.with(HOUSE);
         int got = ofHouse ? Check.house(x, text) : Check.days(x, text);
         int kind = 0;
         int place = -1;
@@ -55,7 +54,6 @@ public final class TextTests {
         Check.due("STATUS of " + text, x.status(), kind == 0 ? 0 : 9);
         Check.due("fault(0) of " + text, x.fault(0), kind);
         Check.due("fault(1) of " + text, x.fault(1), place);
-        x.undo();
         return kind == 0;
     }
 

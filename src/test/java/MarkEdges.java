@@ -1,0 +1,158 @@
+/** Edges of promises 56 and 57: MARKS. */
+final class MarkEdges {
+    private static final String PAIR = PromiseTests.PAIR;
+
+    private MarkEdges() {
+    }
+
+    @Edge(promise = 56, says = "MARKS, at most 3")
+    static void threeAndAFourth() {
+        DoorTongue x = Check.with(PAIR);
+        for (int marks = 1; marks <= 3; marks++) {
+            Check.good(x, "mark()", x.mark(), marks);
+        }
+        Check.bad(x, "mark(): a fourth", x.mark(), 4);
+        Check.bad(x, "mark(): a fourth", x.mark(), 4);
+        for (int marks = 2; marks >= 0; marks--) {
+            Check.good(x, "undo()", x.undo(), marks);
+        }
+        Check.good(x, "mark()", x.mark(), 1);
+    }
+
+    @Edge(promise = 56, says = "gives NONE, or false, and changes nothing else")
+    static void aFourthMarksNothing() {
+        DoorTongue x = new DoorTongue();
+        for (int odds = 1; odds <= 4; odds++) {
+            x.rule(odds);
+            x.mark();
+        }
+        x.rule(9);
+        for (int odds = 3; odds >= 1; odds--) {
+            Check.good(x, "undo()", x.undo(), odds - 1);
+            Check.good(x, "told(4)", x.told(4), odds);
+        }
+    }
+
+    @Edge(promise = 57, says = "All is taken back to the latest MARK: how many there are left (6)")
+    static void withoutAMark() {
+        DoorTongue x = Check.with(PAIR, "any;");
+        x.rule(7);
+        Check.bad(x, "undo()", x.undo(), 6);
+        Check.good(x, "told(4) stays", x.told(4), 7);
+        x.mark();
+        x.undo();
+        x.rule(8);
+        Check.bad(x, "undo(): it is gone", x.undo(), 6);
+        Check.good(x, "told(4) stays", x.told(4), 8);
+        Check.good(x, "live(0): the DAYS stay", x.live(0), 1);
+    }
+
+    @Edge(promise = 57, says = "all is taken back to the latest MARK, which is gone then")
+    static void eachMarkOnce() {
+        DoorTongue x = new DoorTongue();
+        x.rule(1);
+        x.mark();
+        x.rule(2);
+        x.mark();
+        x.rule(3);
+        x.undo();
+        Check.good(x, "told(4)", x.told(4), 2);
+        x.rule(5);
+        x.undo();
+        Check.good(x, "told(4)", x.told(4), 1);
+        Check.bad(x, "undo()", x.undo(), 6);
+    }
+
+    @Edge(promise = 57, says = "All is taken back to the latest MARK")
+    static void whatIsDoneBehindAMarkStaysOutOfIt() {
+        DoorTongue x = Check.with(PAIR + "word w says ajar;");
+        x.close(0, 0, 3);
+        x.mark();
+        String ahead = Check.all(x);
+        x.go(1, 0);
+        x.close(0, 0, 2);
+        x.forget(1);
+        x.come(1);
+        x.line(0, 9);
+        x.deafen(0, 9);
+        x.teach(1, 0, true);
+        Check.fill(x, 0, 0);
+        x.coin(0, 1);
+        x.rule(16);
+        Check.good(x, "undo()", x.undo(), 0);
+        Check.same("undo()", Check.all(x), ahead);
+        Check.heardRow(x, 1, 3);
+        Check.good(x, "told(6)", x.told(6), 1);
+    }
+
+    @Edge(promise = 57, says = "the HOUSE with all that became of it, the DAYS are kept as they are")
+    static void anotherHouseAndOtherDays() {
+        DoorTongue x = Check.with("odds 3;" + PAIR + "word w says ajar;", "go q 0;");
+        x.close(0, 0, 3);
+        x.mark();
+        Check.house(x, "odds 5;room z;room y;room u;door u y open;door z u;person o in u;person n in u deaf 3;"
+            + "person s in y;word v says slam slam;word m says shut;");
+        Check.days(x, "any;any;close o 0 slam;forget s;");
+        x.live(4);
+        x.mark();
+        Check.house(x, "");
+        Check.good(x, "undo()", x.undo(), 1);
+        Check.good(x, "told(0)", x.told(0), 3);
+        Check.good(x, "live(4) of its DAYS", x.live(4), 4);
+        Check.good(x, "undo()", x.undo(), 0);
+        int[] want = {2, 1, 1, 2, 3, 1, 1};
+        for (int what = 0; what < 7; what++) {
+            Check.good(x, "told(" + what + ")", x.told(what), want[what]);
+        }
+        Check.heardRow(x, 1, 3);
+        Check.good(x, "live(0) of the DAYS", x.live(0), 1);
+        Check.good(x, "person(1, 0)", x.person(1, 0), 0);
+        Check.good(x, "days() by the old NAMES", Check.days(x, "when in p a;forget q;end;"), 2);
+        Check.bad(x, "days() by the new ones", Check.days(x, "forget o;"), 9);
+    }
+
+    @Edge(promise = 57, says = "the DAYS are kept as they are")
+    static void daysThatWereNot() {
+        DoorTongue x = Check.with(PAIR);
+        x.mark();
+        Check.good(x, "days()", Check.days(x, "any;"), 1);
+        x.undo();
+        Check.bad(x, "live(0): there were none", x.live(0), 6);
+        Check.bad(x, "mean(0, 1)", x.mean(0, 1), 6);
+    }
+
+    @Edge(promise = 57, says = "MARKS, at most 3: the HOUSE with all that became of it, the DAYS are kept as they are")
+    static void whatAMarkDoesNotKeep() {
+        DoorTongue x = Check.with(PAIR, "go p 0;");
+        Check.fill(x, 0, 1, 2);
+        x.gale(1, 1);
+        x.mark();
+        Check.fill(x, 0, 7);
+        x.gale(2, 1);
+        x.live(0);
+        Check.feed(x, "odds 4;");
+        Check.good(x, "undo()", x.undo(), 0);
+        Check.good(x, "read(0, 0)", x.read(0, 0), 7);
+        Check.bad(x, "read(0, 1)", x.read(0, 1), 3);
+        Check.fraction(x, "gale(2, 1)", 7, 16);
+        Check.good(x, "lived(3)", x.lived(3), 1);
+        Check.good(x, "person(0, 0)", x.person(0, 0), 0);
+        Check.good(x, "house(7) of the tape", x.house(7), 0);
+    }
+
+    @Edge(promise = 57, says = "All is taken back to the latest MARK")
+    static void theNewObject() {
+        DoorTongue x = new DoorTongue();
+        Check.good(x, "mark()", x.mark(), 1);
+        Check.house(x, PromiseTests.PLAIN);
+        Check.days(x, "any;");
+        x.close(0, 0, 0);
+        Check.good(x, "undo()", x.undo(), 0);
+        int[] want = {0, 0, 0, 0, 4, 0, 0};
+        for (int what = 0; what < 7; what++) {
+            Check.good(x, "told(" + what + ")", x.told(what), want[what]);
+        }
+        Check.bad(x, "live(0)", x.live(0), 6);
+        Check.bad(x, "come(0)", x.come(0), 1);
+    }
+}
