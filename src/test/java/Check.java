@@ -105,7 +105,10 @@ final class Check {
 
     /** On a new object; ^ stands in the text where its FAULT is. */
     static void houseFault(String marked, int kind) {
-        DoorTongue x = new DoorTongue();
+        houseFault(new DoorTongue(), marked, kind);
+    }
+
+    static void houseFault(DoorTongue x, String marked, int kind) {
         String text = unmarked(marked);
         bad(x, "house(" + text + ")", house(x, text), 9);
         due("fault(0) of " + text, x.fault(0), kind);
@@ -113,7 +116,10 @@ final class Check {
     }
 
     static void daysFault(String house, String marked, int kind) {
-        DoorTongue x = with(house);
+        daysFault(with(house), marked, kind);
+    }
+
+    static void daysFault(DoorTongue x, String marked, int kind) {
         String text = unmarked(marked);
         bad(x, "days(" + text + ")", days(x, text), 9);
         due("fault(0) of " + text, x.fault(0), kind);

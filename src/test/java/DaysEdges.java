@@ -190,6 +190,17 @@ final class DaysEdges {
         Check.good(x, "live(0) begins anew", x.live(0), 300);
     }
 
+    @Edge(promise = 53, says = "loop n (1 to 99): as often")
+    static void whenInThePlaceOfALoopThatWasLeft() {
+        DoorTongue x = live(PAIR, "loop 99;loop 99;loop 99;any;end;end;end;", 300);
+        Check.good(x, "lived(4)", x.lived(4), 1);
+        Check.days(x, "when in q b;when in p a;when in q b;forget q;forget p;end;end;end;forget q;");
+        x.forget(0);
+        x.forget(1);
+        Check.good(x, "live(0)", x.live(0), 6);
+        livedIs(x, 3, 0, 0, 0, 0);
+    }
+
     @Edge(promise = 53, says = "or stop")
     static void stopEndsAll() {
         DoorTongue x = live(PAIR, "loop 9;loop 9;go p 0;stop;go p 0;end;end;go p 0;", 4);
@@ -257,6 +268,16 @@ final class DaysEdges {
         Check.house(x, "");
         x.live(0);
         livedIs(x, 3, 0, 0, 0, 0);
+    }
+
+    @Edge(promise = 54, says = "Of live() latest with STATUS 0")
+    static void livedOfNoStepsBehindMany() {
+        DoorTongue x = Check.with(PAIR, "loop 99;go p 0;go p 0;go q 0;open p 0;end;");
+        Check.good(x, "live(0)", x.live(0), 300);
+        livedIs(x, 74, 0, 0, 225, 1);
+        Check.good(x, "days(0)", x.days(0), 0);
+        Check.good(x, "live(0) of no STEPS", x.live(0), 0);
+        livedIs(x, 0, 0, 0, 0, 0);
     }
 
     @Edge(promise = 54, says = "2: how often one was HEARD by a PERSON")

@@ -151,14 +151,13 @@ final class DaysTextEdges {
 
     @Edge(promise = 11, says = "3 a NAME that is no such one")
     static void whoCameHasNoName() {
-        DoorTongue x = Check.with("room a;");
+        DoorTongue x = Check.with("room r;");
         x.come(0);
-        Check.bad(x, "days()", Check.days(x, "forget p;"), 9);
-        Check.due("fault(0)", x.fault(0), 3);
-        Check.bad(x, "days()", Check.days(x, "forget abcdefghi;"), 9);
-        Check.due("fault(0)", x.fault(0), 2);
-        Check.bad(x, "days()", Check.days(x, "forget in;"), 9);
-        Check.due("fault(0)", x.fault(0), 2);
+        for (char name = 'a'; name <= 'z'; name++) {
+            Check.daysFault(x, "forget ^" + name + ";", 3);
+        }
+        Check.daysFault(x, "forget ^abcdefghi;", 2);
+        Check.daysFault(x, "forget ^in;", 2);
     }
 
     @Edge(promise = 11, says = "4 a NUMBER that can't be (no such DOOR, too)")
@@ -301,6 +300,48 @@ final class DaysTextEdges {
         Check.good(x, "lived(3)", x.lived(3), 3);
         Check.good(x, "days()", Check.days(x, "go p 0;"), 1);
         Check.good(x, "live(0)", x.live(0), 1);
+    }
+
+    @Edge(promise = 11, says = "an end without a beginning")
+    static void whatWasBegunAheadOfAFault() {
+        DoorTongue x = Check.with(HOUSE);
+        Check.daysFault(x, "loop 1;when open 0;loop 1;^zzz", 2);
+        Check.daysFault(x, "^end;", 2);
+        Check.daysFault(x, "loop 1;^", 2);
+        Check.good(x, "days()", Check.days(x, "loop 1;loop 1;loop 1;end;end;end;"), 3);
+        Check.good(x, "days()", Check.days(x, THIRTY), 30);
+        Check.daysFault(x, THIRTY + "^any;", 6);
+        Check.good(x, "days()", Check.days(x, THIRTY), 30);
+    }
+
+    @Edge(promise = 11, says = "6 a 31st STEP (at its word of the text; end is none)")
+    static void manyEndsAmongTheSteps() {
+        DoorTongue x = taken("loop 1;end;".repeat(27), 27);
+        Check.good(x, "live(0)", x.live(0), 27);
+        x = taken("loop 1;end;".repeat(15) + "when heard p<1;end;".repeat(7), 22);
+        Check.good(x, "live(0)", x.live(0), 22);
+        x = taken("loop 1;end;".repeat(15) + "when heard p=0;go p 0;end;when open 0;go q 0;end;close q 0 ajar;"
+            + "when heard p>0;go p 0;forget p;end;loop 3;go p 0;end;", 25);
+        Check.good(x, "live(0)", x.live(0), 27);
+        Check.good(x, "lived(2)", x.lived(2), 1);
+        Check.good(x, "lived(3)", x.lived(3), 6);
+    }
+
+    @Edge(promise = 11, says = "Likewise the DAYS")
+    static void daysInTurn() {
+        DoorTongue x = Check.with(HOUSE);
+        for (int i = 0; i < 2; i++) {
+            Check.good(x, "days()", Check.days(x, "when heard q<1;any;end;loop 9;go p 1;end;close q 0 ajar;"), 5);
+            Check.good(x, "days()", Check.days(x, "when heard q>1;any;end;loop 1;go p 2;end;go q 1;"), 5);
+            Check.good(x, "live(0)", x.live(0), 4);
+            Check.good(x, "days()", Check.days(x, "when heard q=0;forget p;end;loop 3;forget p;end;stop;"), 5);
+            Check.good(x, "live(0)", x.live(0), 7);
+            Check.good(x, "lived(0)", x.lived(0), 4);
+            Check.good(x, "days()", Check.days(x, "when heard q=1;any;end;open p 0;"), 3);
+            Check.good(x, "live(0)", x.live(0), 2);
+            Check.good(x, "days()", Check.days(x, "when in p a;forget q;forget q;end;loop 2;forget q;end;open p 0;"), 6);
+            Check.good(x, "live(0)", x.live(0), 7);
+        }
     }
 
     @Edge(promise = 11, says = "Likewise the DAYS")

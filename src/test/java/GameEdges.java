@@ -70,6 +70,37 @@ final class GameEdges {
         Check.good(x, "told(5) is as it was", x.told(5), 127);
     }
 
+    @Edge(promise = 49, says = "to how many ROOMS one comes from the PERSON's by OPEN DOORS")
+    static void gameFromTheLastRoom() {
+        DoorTongue x = Check.with("room a;room b;room c;room d;room e;room f;room g;door a b open;door b c open;"
+            + "door c d open;door d e open;door f g open;person p in a;person q in g;person r in e;");
+        int[][] want = {{5, 1, 5, 1, 5}, {2, 1, 2, 1, 2}, {5, 1, 5, 1, 5}};
+        int[] move = {0, 4, 3};
+        for (int person = 0; person < 3; person++) {
+            for (int n = 0; n <= 4; n++) {
+                Check.good(x, "game(" + person + ", " + n + ")", x.game(person, n), want[person][n]);
+            }
+            Check.good(x, "moveOf(" + person + ", 1)", x.moveOf(person, 1), move[person]);
+        }
+    }
+
+    @Edge(promise = 49, says = "(opens one that is not)")
+    static void gameOfWhatIsOpened() {
+        DoorTongue x = Check.with("room a;room b;room c;door b c;door b a;person p in a;");
+        int[] want = {1, 1, 2, 1, 2};
+        for (int n = 0; n <= 4; n++) {
+            Check.good(x, "game(0, " + n + ")", x.game(0, n), want[n]);
+        }
+    }
+
+    @Edge(promise = 50, says = "the first's first DOOR")
+    static void moveByTheLastOfTen() {
+        DoorTongue x = Check.with("room a;room b;person p in a;" + "door a b;".repeat(9) + "door b a open;");
+        for (int n = 1; n <= 4; n++) {
+            Check.good(x, "moveOf(0, " + n + ")", x.moveOf(0, n), 9);
+        }
+    }
+
     @Edge(promise = 50, says = "MOVE (1: n 0, too; 6: nothing)")
     static void moveOfNoneToFourTurns() {
         DoorTongue x = Check.with("room a;room b;room c;door b c open;door a b open;person p in a;person q in c;");

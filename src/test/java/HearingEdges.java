@@ -227,6 +227,26 @@ final class HearingEdges {
         Check.good(x, "secret(0, 2, 1, 2): by the first DOOR of his own ROOM", x.secret(0, 2, 1, 2), 0);
     }
 
+    @Edge(promise = 33, says = "the first DOOR that is OPEN")
+    static void secretByTheLastOfTen() {
+        DoorTongue x = Check.with("room a;room b;room c;" + "door a b;".repeat(9) + "door c a open;person p in a;"
+            + "person q in c;person r in b;");
+        Check.good(x, "secret(0, 1, 2, 3)", x.secret(0, 1, 2, 3), 9);
+    }
+
+    @Edge(promise = 33, says = "one who is to HEAR and one who is not, and a SOUND")
+    static void secretByBaizeBetween() {
+        DoorTongue x = Check.with("room a;room b;room c;room d;door a b open;door b c baize 3;door a d baize 4;person p in a;"
+            + "person q in c deaf 3;person r in d deaf 3;");
+        Check.good(x, "secret(0, 1, 2, 0): 9 less 5 and less 6", x.secret(0, 1, 2, 0), 0);
+        x.line(1, 4);
+        Check.bad(x, "secret(0, 1, 2, 0): 9 less 6 to each", x.secret(0, 1, 2, 0), 6);
+        x.line(2, 3);
+        Check.good(x, "secret(0, 2, 1, 0)", x.secret(0, 2, 1, 0), 0);
+        x.line(1, 3);
+        Check.bad(x, "secret(0, 2, 1, 0): 9 less 5 to each", x.secret(0, 2, 1, 0), 6);
+    }
+
     @Edge(promise = 33, says = "to a ROOM of which he can come by OPEN DOORS")
     static void secretWhereHeCanCome() {
         DoorTongue x = Check.with("room a;room b;room c;room d;room e;door d e open;door c d open;door b c;door a b open;"

@@ -363,6 +363,72 @@ final class HouseTextEdges {
         Check.bad(x, "mean(0, 1)", x.mean(0, 1), 6);
     }
 
+    @Edge(promise = 10, says = "A HOUSE that is taken is there in place of that ahead; nobody has HEARD anything")
+    static void housesInTurn() {
+        DoorTongue x = new DoorTongue();
+        String great = "odds 9;room a;room b;room e;door a b baize 3 open;door b a open;word w says slam shut latch;"
+            + "word v says ajar;person p in b deaf 4 knows w;person q in b knows v w;";
+        String small = "room c;room b;room d;door b c;word u says slam;";
+        for (int i = 0; i < 3; i++) {
+            Check.good(x, "house()", Check.house(x, great), 2);
+            toldIs(x, 3, 2, 2, 2, 9, 3, 0);
+            personIs(x, 0, 1, 4, 1);
+            personIs(x, 1, 1, 0, 3);
+            Check.good(x, "close(0, 0, 2)", x.close(0, 0, 2), 2);
+            x.go(0, 1);
+            Check.good(x, "house()", Check.house(x, small), 0);
+            toldIs(x, 3, 1, 1, 0, 4, 0, 0);
+            Check.good(x, "door(0, 0)", x.door(0, 0), 1);
+            Check.good(x, "door(0, 2)", x.door(0, 2), 0);
+            Check.good(x, "says(0)", x.says(0), 1);
+            Check.bad(x, "days() by a NAME of the HOUSE ahead", Check.days(x, "forget p;"), 9);
+            Check.due("fault(0)", x.fault(0), 3);
+            comeAndBeHeard(x);
+        }
+    }
+
+    private static void toldIs(DoorTongue x, int... want) {
+        for (int what = 0; what < 7; what++) {
+            Check.good(x, "told(" + what + ")", x.told(what), want[what]);
+        }
+    }
+
+    /** His ROOM, DEAF, what he KNOWS; he HEARD nothing. */
+    private static void personIs(DoorTongue x, int person, int... want) {
+        for (int what = 0; what < 3; what++) {
+            Check.good(x, "person(" + person + ", " + what + ")", x.person(person, what), want[what]);
+        }
+        Check.good(x, "person(" + person + ", 3)", x.person(person, 3), 0);
+    }
+
+    private static void comeAndBeHeard(DoorTongue x) {
+        for (int person = 0; person < 2; person++) {
+            Check.good(x, "come(0)", x.come(0), person);
+            personIs(x, person, 0, 0, 0);
+        }
+        x.open(0, 0);
+        Check.good(x, "close(0, 0, 3)", x.close(0, 0, 3), 2);
+        Check.good(x, "close(1, 0, 3)", x.close(1, 0, 3), 1);
+        for (int person = 0; person < 2; person++) {
+            x.deafen(person, 7);
+            x.teach(person, 0, true);
+            x.go(person, 0);
+        }
+        x.line(0, 8);
+    }
+
+    @Edge(promise = 10, says = "9: the old one stays")
+    static void houseBehindAFault() {
+        DoorTongue x = new DoorTongue();
+        Check.bad(x, "house()", Check.house(x, "odds 1;room a;room b;door a b open;word w says slam shut;person p in a;$"), 9);
+        Check.good(x, "house()", Check.house(x, "room b;room a;door a b;word w says slam;"), 0);
+        int[] want = {2, 1, 1, 0, 4, 0, 0};
+        for (int what = 0; what < 7; what++) {
+            Check.good(x, "told(" + what + ")", x.told(what), want[what]);
+        }
+        Check.good(x, "says(0)", x.says(0), 1);
+    }
+
     @Edge(promise = 10, says = "A HOUSE that is taken is there in place of that ahead")
     static void aSmallerHouseInPlaceOfAGreater() {
         DoorTongue x = Check.with(PromiseTests.PLAIN);

@@ -70,8 +70,8 @@ final class MarkEdges {
         x.mark();
         String ahead = Check.all(x);
         x.go(1, 0);
-        x.close(0, 0, 2);
         x.forget(1);
+        x.close(0, 0, 2);
         x.come(1);
         x.line(0, 9);
         x.deafen(0, 9);
@@ -94,11 +94,16 @@ final class MarkEdges {
             + "person s in y;word v says slam slam;word m says shut;");
         Check.days(x, "any;any;close o 0 slam;forget s;");
         x.live(4);
+        String second = Check.all(x);
         x.mark();
-        Check.house(x, "");
+        for (int i = 0; i < 2; i++) {
+            Check.house(x, "room q;room a;door a q baize 7;word o says latch latch latch;person y in a deaf 9;");
+        }
         Check.good(x, "undo()", x.undo(), 1);
-        Check.good(x, "told(0)", x.told(0), 3);
+        Check.same("undo()", Check.all(x), second);
         Check.good(x, "live(4) of its DAYS", x.live(4), 4);
+        Check.good(x, "days() by its NAMES", Check.days(x, "when in o z;forget s;end;when in n u;end;"), 3);
+        Check.bad(x, "days() by the NAMES taken back", Check.days(x, "forget y;"), 9);
         Check.good(x, "undo()", x.undo(), 0);
         int[] want = {2, 1, 1, 2, 3, 1, 1};
         for (int what = 0; what < 7; what++) {
@@ -109,6 +114,27 @@ final class MarkEdges {
         Check.good(x, "person(1, 0)", x.person(1, 0), 0);
         Check.good(x, "days() by the old NAMES", Check.days(x, "when in p a;forget q;end;"), 2);
         Check.bad(x, "days() by the new ones", Check.days(x, "forget o;"), 9);
+    }
+
+    @Edge(promise = 57, says = "the DAYS are kept as they are")
+    static void daysOfEachKindTakenBack() {
+        DoorTongue x = Check.with(PAIR, "when heard q = 0;loop 2;close p 0 ajar;end;end;when in q b;go q 0;end;"
+            + "when open 0;go p 0;end;when heard q > 1;forget q;end;");
+        x.mark();
+        for (int i = 0; i < 2; i++) {
+            Check.days(x, "loop 9;when in p a;stop;any;any;forget q;forget q;end;end;loop 3;any;any;end;stop;");
+            Check.days(x, "when heard p > 8;loop 9;close q 0 slam;end;end;when heard q < 8;open q 0;end;"
+                + "when in p a;any;end;when heard q < 1;any;end;");
+        }
+        Check.good(x, "undo()", x.undo(), 0);
+        Check.good(x, "live(0)", x.live(0), 10);
+        int[] want = {0, 2, 2, 2, 0};
+        for (int what = 0; what < 5; what++) {
+            Check.good(x, "lived(" + what + ")", x.lived(what), want[what]);
+        }
+        Check.good(x, "person(0, 0)", x.person(0, 0), 1);
+        Check.good(x, "person(1, 0)", x.person(1, 0), 0);
+        Check.heardRow(x, 1);
     }
 
     @Edge(promise = 57, says = "the DAYS are kept as they are")

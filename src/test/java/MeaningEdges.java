@@ -106,6 +106,17 @@ final class MeaningEdges {
     }
 
     @Edge(promise = 35, says = "FIRST: that which comes first by WORDS, one by one.")
+    static void firstWhereALowerWordLeadsNowhere() {
+        DoorTongue x = heard("room a;room b;door a b open;word u says slam;word x says slam shut;word y says latch;"
+            + "word z says shut latch latch;person p in a;person q in b knows u x y z;", 0, 1, 2);
+        Check.good(x, "readings(1)", x.readings(1), 1);
+        Check.good(x, "first(1)", x.first(1), 2);
+        Check.good(x, "firstAt(1, 0)", x.firstAt(1, 0), 1);
+        Check.good(x, "firstAt(1, 1)", x.firstAt(1, 1), 2);
+        Check.bad(x, "firstAt(1, 2)", x.firstAt(1, 2), 6);
+    }
+
+    @Edge(promise = 35, says = "FIRST: that which comes first by WORDS, one by one.")
     static void firstOfEightWords() {
         DoorTongue x = heard("room a;room b;door a b open;word x says ajar;person p in a;person q in b knows x;",
             3, 3, 3, 3, 3, 3, 3, 3, 3);

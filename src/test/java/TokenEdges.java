@@ -96,6 +96,17 @@ final class TokenEdges {
         }
     }
 
+    /** 59 to 62 are the bytes of the SIGNS. */
+    @Edge(promise = 10, says = "NUMBERS (1 to 4 digits), SIGNS ; < > =")
+    static void numbersThatAreNoSigns() {
+        Check.houseFault("room a ^59", 2);
+        Check.houseFault("room a ^59;", 2);
+        Check.daysFault("", "any ^59", 2);
+        for (int number = 60; number <= 62; number++) {
+            Check.daysFault(PromiseTests.PAIR, "when heard p ^" + number + " 3;end;", 2);
+        }
+    }
+
     @Edge(promise = 10, says = "a word of the text of 1 to 8 letters")
     static void namesOfOneAndOfEightLetters() {
         DoorTongue x = Check.houseTaken("room a;room zzzzzzzz;door zzzzzzzz a;word abcdefgh says slam;"
@@ -174,5 +185,36 @@ final class TokenEdges {
         Check.good(x, "house()", Check.house(x, "room w;word p says slam;person n in w;"), 1);
         Check.bad(x, "house()", Check.house(x, "room z;word z says ajar;"), 9);
         Check.good(x, "house()", Check.house(x, "room z;word y says ajar;"), 0);
+    }
+
+    @Edge(promise = 10, says = "a NAME that is no such one told ahead")
+    static void theNamesOfHousesBeforeAreGone() {
+        String house = "room c;room d;room e;word y says slam;word z says shut;";
+        for (int many = 0; many < 3; many++) {
+            DoorTongue x = Check.with("room a;room b;word w says slam;person p in a;person o in b;");
+            for (int k = 0; k < many; k++) {
+                Check.good(x, "house()", Check.house(x, "room e;word z says ajar;"), 0);
+            }
+            Check.houseFault(x, house + "door ^a b;", 3);
+            Check.houseFault(x, house + "person q in ^b;", 3);
+            Check.houseFault(x, house + "person q in c knows ^w;", 3);
+            Check.good(x, "house() of NAMES that are free", Check.house(x, "room w;room o;room p;word a says ajar;"), 0);
+        }
+    }
+
+    @Edge(promise = 11, says = "3 a NAME that is no such one (a PERSON; then a ROOM behind in)")
+    static void theNamesOfHousesBeforeAreGoneForDays() {
+        for (int many = 1; many < 4; many++) {
+            DoorTongue x = Check.with("room a;room b;person p in a;person o in b;");
+            for (int k = 0; k < many; k++) {
+                Check.good(x, "house()", Check.house(x, "room c;room d;" + (k == 0 ? "room e;" : "")), 0);
+            }
+            Check.daysFault(x, "forget ^p;", 3);
+            x.come(0);
+            Check.daysFault(x, "forget ^o;", 3);
+            Check.good(x, "house()", Check.house(x, "room p;person a in p;"), 1);
+            Check.daysFault(x, "when in a ^b;end;", 3);
+            Check.daysFault(x, "forget ^p;", 3);
+        }
     }
 }

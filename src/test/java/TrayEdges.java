@@ -311,6 +311,35 @@ final class TrayEdges {
         }
     }
 
+    @Edge(promise = 5, says = "TRAYS 0 to 3")
+    static void eachTrayForItself() {
+        DoorTongue x = Check.with("room a;room b;door a b open;door a b open;word w says slam;word v says shut;"
+            + "word u says slam shut;person p in b;person q in b knows w v u;");
+        Check.fill(x, 0, 1, 0);
+        Check.fill(x, 1, 0, 1);
+        Check.fill(x, 2, 1, 1);
+        Check.fill(x, 3, 0, 9);
+        int[] sounds = {1, 2, 1};
+        int[] words = {1, 2, 1};
+        for (int tray = 0; tray < 3; tray++) {
+            Check.good(x, "means(1, " + tray + ", 2)", x.means(1, tray, 2), sounds[tray]);
+            Check.good(x, "unsaid(1, " + tray + ", 2)", x.unsaid(1, tray, 2), words[tray]);
+        }
+        Check.good(x, "culprits(0, 2)", x.culprits(0, 2), 3);
+        Check.good(x, "culprits(1, 2)", x.culprits(1, 2), 3);
+        Check.bad(x, "culprits(2, 2)", x.culprits(2, 2), 5);
+        Check.bad(x, "means(1, 3, 2)", x.means(1, 3, 2), 5);
+        Check.bad(x, "unsaid(1, 3, 2)", x.unsaid(1, 3, 2), 5);
+        Check.bad(x, "culprits(3, 2)", x.culprits(3, 2), 5);
+        Check.bad(x, "coin(3, 2)", x.coin(3, 2), 5);
+        Check.good(x, "coin(2, 2)", x.coin(2, 2), 3);
+        Check.good(x, "saysAt(3, 0)", x.saysAt(3, 0), 1);
+        Check.good(x, "copyRooms(3)", x.copyRooms(3), 2);
+        Check.good(x, "read(3, 0)", x.read(3, 0), 1);
+        Check.good(x, "read(3, 1)", x.read(3, 1), 1);
+        Check.good(x, "read(0, 1)", x.read(0, 1), 0);
+    }
+
     @Edge(promise = 6, says = "3 a place that the TRAY has not")
     static void writeBeyondTheRow() {
         DoorTongue x = new DoorTongue();

@@ -83,6 +83,16 @@ final class WayEdges {
         }
     }
 
+    @Edge(promise = 43, says = "WAY: the ROOMS on it")
+    static void wayBesideRoomsThatAreAsFar() {
+        DoorTongue x = Check.with("room a;room b;room c;room d;door a b open;door a d open;door b d open;door c d open;");
+        Check.good(x, "way(1, 2, 0)", x.way(1, 2, 0), 1);
+        Check.good(x, "way(1, 2, 1)", x.way(1, 2, 1), 3);
+        Check.good(x, "way(1, 2, 2)", x.way(1, 2, 2), 2);
+        Check.good(x, "way(1, 3, 0)", x.way(1, 3, 0), 1);
+        Check.good(x, "way(1, 3, 1)", x.way(1, 3, 1), 3);
+    }
+
     @Edge(promise = 44, says = "The set of ROOMS to which one comes from one by OPEN DOORS (1 for ROOM 0 ..)")
     static void partOfOneAndOfAll() {
         DoorTongue x = Check.with(ROW);
@@ -191,6 +201,13 @@ final class WayEdges {
         Check.good(x, "told(5) is as it was", x.told(5), 5);
     }
 
+    @Edge(promise = 47, says = "the fewest shut DOORS to be OPENED so that one can")
+    static void togetherByTheLastOfTen() {
+        DoorTongue x = Check.with("room a;room b;room c;person p in a;person q in c;" + "door a b;".repeat(9) + "door c b;");
+        Check.good(x, "together(0, 1)", x.together(0, 1), 2);
+        Check.good(x, "together(1, 0)", x.together(1, 0), 2);
+    }
+
     @Edge(promise = 47, says = "TOGETHER: how many DOORS (1; 6: by none)")
     static void togetherWithoutDoors() {
         DoorTongue x = Check.with("room a;room b;room c;door a b open;person p in a;person q in c;");
@@ -231,6 +248,14 @@ final class WayEdges {
         Check.good(x, "culprits(0, 0) without PEOPLE", x.culprits(0, 0), 0);
     }
 
+    @Edge(promise = 48, says = "numbers are DOORS that are OPEN, no two alike, in order")
+    static void culpritsOfMoreDoorsThanRooms() {
+        DoorTongue x = Check.with("room a;room b;person p in a;" + "door a b open;".repeat(10));
+        Check.fill(x, 3, 9, 8, 2, 5, 7, 0);
+        Check.good(x, "culprits(3, 6)", x.culprits(3, 6), 1);
+        Check.bad(x, "culprits(0, 6)", x.culprits(0, 6), 2);
+    }
+
     @Edge(promise = 48, says = "(1; 2; 3; 5: a DOOR that is shut, one twice, too)")
     static void culpritsOfWhatIsShutAndTwice() {
         DoorTongue x = Check.with(ROW);
@@ -243,16 +268,35 @@ final class WayEdges {
         Check.good(x, "culprits(0, 2)", x.culprits(0, 2), 2);
         Check.bad(x, "culprits(0, 3): one twice", x.culprits(0, 3), 5);
         Check.bad(x, "culprits(0, 4): one twice", x.culprits(0, 4), 5);
+        for (int door = 0; door < 5; door++) {
+            Check.fill(x, 0, door, door);
+            Check.bad(x, "culprits(0, 2): one twice", x.culprits(0, 2), 5);
+        }
     }
 
     @Edge(promise = 48, says = "5 a number in a TRAY that can't be")
     static void culpritsOfNoSuchDoor() {
         DoorTongue x = Check.with(ROW);
         x.tray(0, 3, 2);
-        for (long no : new long[] {-1, 6, 10, 63, 1L << 32, Long.MIN_VALUE, Long.MAX_VALUE}) {
+        for (long no : new long[] {-1, 6, 10, 33, 63, 1L << 32, (1L << 32) + 1, -31, Long.MIN_VALUE, Long.MAX_VALUE}) {
             x.write(0, 1, no);
             Check.bad(x, "culprits(0, 2) of " + no, x.culprits(0, 2), 5);
             Check.good(x, "culprits(0, 1): it is not asked", x.culprits(0, 1), 7);
+        }
+    }
+
+    @Edge(promise = 48, says = "CULPRITS by a TRAY")
+    static void culpritsByEachTray() {
+        DoorTongue x = Check.with(ROW);
+        x.go(0, 5);
+        x.close(0, 4, 1);
+        int[] door = {0, 5, 3, 5};
+        int[] want = {2, 5, 2, 5};
+        for (int tray = 0; tray < 4; tray++) {
+            Check.fill(x, tray, door[tray]);
+        }
+        for (int tray = 0; tray < 4; tray++) {
+            Check.good(x, "culprits(" + tray + ", 1)", x.culprits(tray, 1), want[tray]);
         }
     }
 
