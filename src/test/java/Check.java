@@ -198,6 +198,25 @@ final class Check {
         return told.append(x.top()).append('/').append(x.bottom()).toString();
     }
 
+    /** What told() tells: ROOMS, DOORS, WORDS, PEOPLE, ODDS, the OPEN ones, how often a SOUND was made. */
+    static void toldIs(DoorTongue x, int... want) {
+        for (int what = 0; what < want.length; what++) {
+            good(x, "told(" + what + ")", x.told(what), want[what]);
+        }
+    }
+
+    /** What lived() tells: MISSED, made, HEARD, gone, left. */
+    static void livedIs(DoorTongue x, int... want) {
+        for (int what = 0; what < want.length; what++) {
+            good(x, "lived(" + what + ")", x.lived(what), want[what]);
+        }
+    }
+
+    static void galeIs(DoorTongue x, int n, int k, long top, long bottom) {
+        good(x, "gale(" + n + ", " + k + ")", x.gale(n, k));
+        fraction(x, "gale(" + n + ", " + k + ")", top, bottom);
+    }
+
     static void same(String call, String got, String want) {
         due(call + " is as it was", got.equals(want), true);
     }

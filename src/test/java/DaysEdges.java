@@ -9,13 +9,6 @@ final class DaysEdges {
     private DaysEdges() {
     }
 
-    /** What lived() tells: MISSED, made, HEARD, gone, left. */
-    private static void livedIs(DoorTongue x, int... want) {
-        for (int what = 0; what < want.length; what++) {
-            Check.good(x, "lived(" + what + ")", x.lived(what), want[what]);
-        }
-    }
-
     private static DoorTongue live(String house, String days, int done) {
         DoorTongue x = Check.with(house, days);
         Check.good(x, "live(0) of " + days, x.live(0), done);
@@ -76,7 +69,7 @@ final class DaysEdges {
         Check.good(x, "person(0, 0)", x.person(0, 0), 1);
         Check.heardRow(x, 0, 1);
         Check.heardRow(x, 1, 3);
-        livedIs(x, 0, 2, 2, 1, 0);
+        Check.livedIs(x, 0, 2, 2, 1, 0);
     }
 
     @Edge(promise = 53, says = "if it is OPEN, a slam is HEARD by all, made by nobody, and it is shut, else it is OPEN")
@@ -85,25 +78,25 @@ final class DaysEdges {
         Check.good(x, "told(5): shut", x.told(5), 0);
         Check.heardRow(x, 0, 0);
         Check.heardRow(x, 1, 0);
-        livedIs(x, 0, 1, 2, 0, 0);
+        Check.livedIs(x, 0, 1, 2, 0, 0);
         Check.good(x, "live(0)", x.live(0), 1);
         Check.good(x, "told(5): OPEN", x.told(5), 1);
         Check.good(x, "person(0, 3)", x.person(0, 3), 1);
-        livedIs(x, 0, 0, 0, 0, 0);
+        Check.livedIs(x, 0, 0, 0, 0, 0);
         Check.good(x, "told(6)", x.told(6), 1);
     }
 
     @Edge(promise = 53, says = "any without DOORS (no draw)")
     static void theWindWithoutDoors() {
         DoorTongue x = live("room a;person p in a;", "any;any;", 2);
-        livedIs(x, 2, 0, 0, 0, 0);
+        Check.livedIs(x, 2, 0, 0, 0, 0);
     }
 
     @Edge(promise = 53, says = "a close, open, go of a PERSON who is in no ROOM of that DOOR")
     static void missedFromElsewhere() {
         DoorTongue x = live("room a;room b;room c;door a b open;door a b;person p in c;",
             "close p 0 slam;open p 1;go p 0;", 3);
-        livedIs(x, 3, 0, 0, 0, 0);
+        Check.livedIs(x, 3, 0, 0, 0, 0);
         Check.good(x, "told(5)", x.told(5), 1);
         Check.good(x, "person(0, 0)", x.person(0, 0), 2);
     }
@@ -112,7 +105,7 @@ final class DaysEdges {
     static void missedOfWhatIsShutOrOpen() {
         DoorTongue x = live("room a;room b;door a b open;door a b;person p in a;person q in b;",
             "close p 1 slam;close p 1 ajar;go p 1;open p 0;", 4);
-        livedIs(x, 4, 0, 0, 0, 0);
+        Check.livedIs(x, 4, 0, 0, 0, 0);
         Check.good(x, "told(5)", x.told(5), 1);
         Check.heardRow(x, 1);
     }
@@ -120,7 +113,7 @@ final class DaysEdges {
     @Edge(promise = 53, says = "a forget of who HEARD nothing")
     static void missedForget() {
         DoorTongue x = live(PAIR, "forget q;close p 0 ajar;forget p;forget q;forget q;", 5);
-        livedIs(x, 3, 1, 1, 0, 0);
+        Check.livedIs(x, 3, 1, 1, 0, 0);
         Check.heardRow(x, 1);
     }
 
@@ -128,9 +121,9 @@ final class DaysEdges {
     static void testsThatHoldAndDoNot() {
         DoorTongue x = live(PAIR + "door a b;", "when in p a;forget p;end;when in p b;forget p;forget p;end;"
             + "when open 0;forget p;end;when open 1;forget p;forget p;end;", 6);
-        livedIs(x, 2, 0, 0, 0, 0);
+        Check.livedIs(x, 2, 0, 0, 0, 0);
         x = live(PAIR, "when open 0;close p 0 slam;when open 0;any;any;end;when in q a;any;end;when in q b;open q 0;end;end;", 6);
-        livedIs(x, 0, 1, 1, 0, 0);
+        Check.livedIs(x, 0, 1, 1, 0, 0);
     }
 
     @Edge(promise = 53, says = "COMPARES: < or > or =")
@@ -143,7 +136,7 @@ final class DaysEdges {
                     x.close(0, 0, 3);
                 }
                 Check.good(x, "live(0)", x.live(0), 4);
-                livedIs(x, many < with ? 0 : 1);
+                Check.livedIs(x, many < with ? 0 : 1);
                 Check.good(x, "person(0, 0) of " + many + " and " + with, x.person(0, 0), many < with ? 1 : 0);
             }
         }
@@ -155,11 +148,11 @@ final class DaysEdges {
     @Edge(promise = 53, says = "loop n (1 to 99): as often")
     static void loopOfOneAndOfNinetyNine() {
         DoorTongue x = live(PAIR, "loop 1;go p 0;end;", 2);
-        livedIs(x, 0, 0, 0, 1, 0);
+        Check.livedIs(x, 0, 0, 0, 1, 0);
         x = live(PAIR, "loop 99;go p 0;end;", 100);
-        livedIs(x, 0, 0, 0, 99, 0);
+        Check.livedIs(x, 0, 0, 0, 99, 0);
         x = live(PAIR, "loop 2;end;", 1);
-        livedIs(x, 0, 0, 0, 0, 0);
+        Check.livedIs(x, 0, 0, 0, 0, 0);
     }
 
     @Edge(promise = 53, says = "(when, loop count as one each time they are come to from ahead; end does not)")
@@ -174,11 +167,11 @@ final class DaysEdges {
     @Edge(promise = 53, says = "At most 300 STEPS")
     static void justThreeHundred() {
         DoorTongue x = live(PAIR, MOST + "go p 0;go q 0;go q 0;", 300);
-        livedIs(x, 0, 0, 0, 299, 1);
+        Check.livedIs(x, 0, 0, 0, 299, 1);
         x = live(PAIR, MOST + "go p 0;go q 0;", 300);
-        livedIs(x, 0, 0, 0, 299, 0);
+        Check.livedIs(x, 0, 0, 0, 299, 0);
         x = live(PAIR, MOST + "go p 0;", 299);
-        livedIs(x, 0, 0, 0, 298, 0);
+        Check.livedIs(x, 0, 0, 0, 298, 0);
     }
 
     @Edge(promise = 53, says = "At most 300 STEPS")
@@ -186,7 +179,7 @@ final class DaysEdges {
         DoorTongue x = live(PAIR, MOST + "go q 0;go q 0;close p 0 slam;", 300);
         Check.good(x, "told(5)", x.told(5), 1);
         Check.good(x, "person(1, 0)", x.person(1, 0), 1);
-        livedIs(x, 0, 0, 0, 299, 1);
+        Check.livedIs(x, 0, 0, 0, 299, 1);
         Check.good(x, "live(0) begins anew", x.live(0), 300);
     }
 
@@ -198,17 +191,17 @@ final class DaysEdges {
         x.forget(0);
         x.forget(1);
         Check.good(x, "live(0)", x.live(0), 6);
-        livedIs(x, 3, 0, 0, 0, 0);
+        Check.livedIs(x, 3, 0, 0, 0, 0);
     }
 
     @Edge(promise = 53, says = "or stop")
     static void stopEndsAll() {
         DoorTongue x = live(PAIR, "loop 9;loop 9;go p 0;stop;go p 0;end;end;go p 0;", 4);
-        livedIs(x, 0, 0, 0, 1, 0);
+        Check.livedIs(x, 0, 0, 0, 1, 0);
         x = live(PAIR, "stop;", 1);
-        livedIs(x, 0, 0, 0, 0, 0);
+        Check.livedIs(x, 0, 0, 0, 0, 0);
         x = live(PAIR, "when in p b;stop;end;go p 0;", 2);
-        livedIs(x, 0, 0, 0, 1, 0);
+        Check.livedIs(x, 0, 0, 0, 1, 0);
     }
 
     @Edge(promise = 54, says = "4: 1 if a STEP was left to be done, else 0")
@@ -244,7 +237,7 @@ final class DaysEdges {
         x.mean(0, 1);
         Check.bad(x, "lived(0): none had STATUS 0", x.lived(0), 6);
         x.live(0);
-        livedIs(x, 0, 0, 0, 1, 0);
+        Check.livedIs(x, 0, 0, 0, 1, 0);
         for (int no : new int[] {-1, 5, BIG, LOW}) {
             Check.bad(x, "lived(" + no + ")", x.lived(no), 1);
         }
@@ -254,37 +247,37 @@ final class DaysEdges {
     static void livedLatest() {
         DoorTongue x = Check.with(PAIR, "close p 0 slam;close p 0 slam;go p 0;");
         x.live(0);
-        livedIs(x, 2, 1, 1, 0, 0);
+        Check.livedIs(x, 2, 1, 1, 0, 0);
         x.live(0);
-        livedIs(x, 3, 0, 0, 0, 0);
+        Check.livedIs(x, 3, 0, 0, 0, 0);
         x.live(-1);
         x.mean(0, 20);
-        livedIs(x, 3, 0, 0, 0, 0);
+        Check.livedIs(x, 3, 0, 0, 0, 0);
         Check.days(x, "any");
         x.open(0, 0);
         x.close(0, 0, 3);
         x.go(0, 0);
-        livedIs(x, 3, 0, 0, 0, 0);
+        Check.livedIs(x, 3, 0, 0, 0, 0);
         Check.house(x, "");
         x.live(0);
-        livedIs(x, 3, 0, 0, 0, 0);
+        Check.livedIs(x, 3, 0, 0, 0, 0);
     }
 
     @Edge(promise = 54, says = "Of live() latest with STATUS 0")
     static void livedOfNoStepsBehindMany() {
         DoorTongue x = Check.with(PAIR, "loop 99;go p 0;go p 0;go q 0;open p 0;end;");
         Check.good(x, "live(0)", x.live(0), 300);
-        livedIs(x, 74, 0, 0, 225, 1);
+        Check.livedIs(x, 74, 0, 0, 225, 1);
         Check.good(x, "days(0)", x.days(0), 0);
         Check.good(x, "live(0) of no STEPS", x.live(0), 0);
-        livedIs(x, 0, 0, 0, 0, 0);
+        Check.livedIs(x, 0, 0, 0, 0, 0);
     }
 
     @Edge(promise = 54, says = "2: how often one was HEARD by a PERSON")
     static void heardBySeveral() {
         DoorTongue x = live("room a;room b;door a b open;person p in a;person q in b;person r in b;person s in a deaf 9;"
             + "person t in b;", "close p 0 ajar;close p 0 ajar;forget q;loop 9;close q 0 ajar;end;", 13);
-        livedIs(x, 0, 11, 6 + 27, 0, 0);
+        Check.livedIs(x, 0, 11, 6 + 27, 0, 0);
         Check.good(x, "person(2, 3)", x.person(2, 3), 8);
     }
 

@@ -146,53 +146,48 @@ final class GameEdges {
         Check.bad(x, "moveOf(0, 0) without DOORS", x.moveOf(0, 0), 1);
     }
 
-    private static void galeIs(DoorTongue x, int n, int k, long top, long bottom) {
-        Check.good(x, "gale(" + n + ", " + k + ")", x.gale(n, k));
-        Check.fraction(x, "gale(" + n + ", " + k + ")", top, bottom);
-    }
-
     @Edge(promise = 51, says = "Each of n SOUNDS (0 to 12) is drowned by the wind by ODDS sixteenths")
     static void galeOfNoneAndOfTwelve() {
         DoorTongue x = new DoorTongue();
-        galeIs(x, 0, 0, 1, 1);
-        galeIs(x, 0, 1, 0, 1);
-        galeIs(x, 0, 12, 0, 1);
-        galeIs(x, 12, 0, 1, 1);
-        galeIs(x, 12, 12, 1, 1L << 24);
-        galeIs(x, 11, 12, 0, 1);
-        galeIs(x, 12, 1, (1L << 24) - 531441, 1L << 24);
+        Check.galeIs(x, 0, 0, 1, 1);
+        Check.galeIs(x, 0, 1, 0, 1);
+        Check.galeIs(x, 0, 12, 0, 1);
+        Check.galeIs(x, 12, 0, 1, 1);
+        Check.galeIs(x, 12, 12, 1, 1L << 24);
+        Check.galeIs(x, 11, 12, 0, 1);
+        Check.galeIs(x, 12, 1, (1L << 24) - 531441, 1L << 24);
     }
 
     @Edge(promise = 51, says = "the odds that k or more are")
     static void galeOfKOrMore() {
         DoorTongue x = new DoorTongue();
         x.rule(8);
-        galeIs(x, 2, 0, 1, 1);
-        galeIs(x, 2, 1, 3, 4);
-        galeIs(x, 2, 2, 1, 4);
-        galeIs(x, 2, 3, 0, 1);
-        galeIs(x, 12, 6, 1255, 2048);
-        galeIs(x, 12, 7, 793, 2048);
-        galeIs(x, 12, 11, 13, 4096);
-        galeIs(x, 12, 12, 1, 4096);
+        Check.galeIs(x, 2, 0, 1, 1);
+        Check.galeIs(x, 2, 1, 3, 4);
+        Check.galeIs(x, 2, 2, 1, 4);
+        Check.galeIs(x, 2, 3, 0, 1);
+        Check.galeIs(x, 12, 6, 1255, 2048);
+        Check.galeIs(x, 12, 7, 793, 2048);
+        Check.galeIs(x, 12, 11, 13, 4096);
+        Check.galeIs(x, 12, 12, 1, 4096);
     }
 
     @Edge(promise = 51, says = "ODDS (0 to 16; 4 without)")
     static void galeByNoneAndBySixteen() {
         DoorTongue x = new DoorTongue();
         x.rule(0);
-        galeIs(x, 12, 0, 1, 1);
-        galeIs(x, 12, 1, 0, 1);
-        galeIs(x, 0, 0, 1, 1);
+        Check.galeIs(x, 12, 0, 1, 1);
+        Check.galeIs(x, 12, 1, 0, 1);
+        Check.galeIs(x, 0, 0, 1, 1);
         x.rule(16);
-        galeIs(x, 12, 12, 1, 1);
-        galeIs(x, 12, 0, 1, 1);
-        galeIs(x, 11, 12, 0, 1);
+        Check.galeIs(x, 12, 12, 1, 1);
+        Check.galeIs(x, 12, 0, 1, 1);
+        Check.galeIs(x, 11, 12, 0, 1);
         x.rule(15);
-        galeIs(x, 12, 12, 129746337890625L, 1L << 48);
+        Check.galeIs(x, 12, 12, 129746337890625L, 1L << 48);
         x.rule(1);
-        galeIs(x, 12, 12, 1, 1L << 48);
-        galeIs(x, 12, 1, (1L << 48) - 129746337890625L, 1L << 48);
+        Check.galeIs(x, 12, 12, 1, 1L << 48);
+        Check.galeIs(x, 12, 1, (1L << 48) - 129746337890625L, 1L << 48);
     }
 
     @Edge(promise = 51, says = "The FRACTION is GALE (n, k 0 to 12) (1).")

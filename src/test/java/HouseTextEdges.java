@@ -20,10 +20,7 @@ final class HouseTextEdges {
     static void noPartAtAll() {
         DoorTongue x = Check.with(PromiseTests.PLAIN);
         Check.good(x, "house(0)", x.house(0), 0);
-        int[] want = {0, 0, 0, 0, 4, 0, 0};
-        for (int what = 0; what < 7; what++) {
-            Check.good(x, "told(" + what + ")", x.told(what), want[what]);
-        }
+        Check.toldIs(x, 0, 0, 0, 0, 4, 0, 0);
         Check.due("fault(0)", x.fault(0), 0);
         Check.due("fault(1)", x.fault(1), -1);
     }
@@ -371,25 +368,19 @@ final class HouseTextEdges {
         String small = "room c;room b;room d;door b c;word u says slam;";
         for (int i = 0; i < 3; i++) {
             Check.good(x, "house()", Check.house(x, great), 2);
-            toldIs(x, 3, 2, 2, 2, 9, 3, 0);
+            Check.toldIs(x, 3, 2, 2, 2, 9, 3, 0);
             personIs(x, 0, 1, 4, 1);
             personIs(x, 1, 1, 0, 3);
             Check.good(x, "close(0, 0, 2)", x.close(0, 0, 2), 2);
             x.go(0, 1);
             Check.good(x, "house()", Check.house(x, small), 0);
-            toldIs(x, 3, 1, 1, 0, 4, 0, 0);
+            Check.toldIs(x, 3, 1, 1, 0, 4, 0, 0);
             Check.good(x, "door(0, 0)", x.door(0, 0), 1);
             Check.good(x, "door(0, 2)", x.door(0, 2), 0);
             Check.good(x, "says(0)", x.says(0), 1);
             Check.bad(x, "days() by a NAME of the HOUSE ahead", Check.days(x, "forget p;"), 9);
             Check.due("fault(0)", x.fault(0), 3);
             comeAndBeHeard(x);
-        }
-    }
-
-    private static void toldIs(DoorTongue x, int... want) {
-        for (int what = 0; what < 7; what++) {
-            Check.good(x, "told(" + what + ")", x.told(what), want[what]);
         }
     }
 
@@ -422,10 +413,7 @@ final class HouseTextEdges {
         DoorTongue x = new DoorTongue();
         Check.bad(x, "house()", Check.house(x, "odds 1;room a;room b;door a b open;word w says slam shut;person p in a;$"), 9);
         Check.good(x, "house()", Check.house(x, "room b;room a;door a b;word w says slam;"), 0);
-        int[] want = {2, 1, 1, 0, 4, 0, 0};
-        for (int what = 0; what < 7; what++) {
-            Check.good(x, "told(" + what + ")", x.told(what), want[what]);
-        }
+        Check.toldIs(x, 2, 1, 1, 0, 4, 0, 0);
         Check.good(x, "says(0)", x.says(0), 1);
     }
 
@@ -433,10 +421,7 @@ final class HouseTextEdges {
     static void aSmallerHouseInPlaceOfAGreater() {
         DoorTongue x = Check.with(PromiseTests.PLAIN);
         Check.good(x, "house()", Check.house(x, "room a;"), 0);
-        int[] want = {1, 0, 0, 0, 4, 0, 0};
-        for (int what = 0; what < 7; what++) {
-            Check.good(x, "told(" + what + ")", x.told(what), want[what]);
-        }
+        Check.toldIs(x, 1, 0, 0, 0, 4, 0, 0);
         Check.bad(x, "door(0, 0)", x.door(0, 0), 1);
         Check.bad(x, "says(0)", x.says(0), 1);
         Check.bad(x, "person(0, 0)", x.person(0, 0), 1);

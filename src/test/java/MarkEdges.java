@@ -105,10 +105,7 @@ final class MarkEdges {
         Check.good(x, "days() by its NAMES", Check.days(x, "when in o z;forget s;end;when in n u;end;"), 3);
         Check.bad(x, "days() by the NAMES taken back", Check.days(x, "forget y;"), 9);
         Check.good(x, "undo()", x.undo(), 0);
-        int[] want = {2, 1, 1, 2, 3, 1, 1};
-        for (int what = 0; what < 7; what++) {
-            Check.good(x, "told(" + what + ")", x.told(what), want[what]);
-        }
+        Check.toldIs(x, 2, 1, 1, 2, 3, 1, 1);
         Check.heardRow(x, 1, 3);
         Check.good(x, "live(0) of the DAYS", x.live(0), 1);
         Check.good(x, "person(1, 0)", x.person(1, 0), 0);
@@ -128,10 +125,7 @@ final class MarkEdges {
         }
         Check.good(x, "undo()", x.undo(), 0);
         Check.good(x, "live(0)", x.live(0), 10);
-        int[] want = {0, 2, 2, 2, 0};
-        for (int what = 0; what < 5; what++) {
-            Check.good(x, "lived(" + what + ")", x.lived(what), want[what]);
-        }
+        Check.livedIs(x, 0, 2, 2, 2, 0);
         Check.good(x, "person(0, 0)", x.person(0, 0), 1);
         Check.good(x, "person(1, 0)", x.person(1, 0), 0);
         Check.heardRow(x, 1);
@@ -174,10 +168,7 @@ final class MarkEdges {
         Check.days(x, "any;");
         x.close(0, 0, 0);
         Check.good(x, "undo()", x.undo(), 0);
-        int[] want = {0, 0, 0, 0, 4, 0, 0};
-        for (int what = 0; what < 7; what++) {
-            Check.good(x, "told(" + what + ")", x.told(what), want[what]);
-        }
+        Check.toldIs(x, 0, 0, 0, 0, 4, 0, 0);
         Check.bad(x, "live(0)", x.live(0), 6);
         Check.bad(x, "come(0)", x.come(0), 1);
     }

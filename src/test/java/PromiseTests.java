@@ -269,10 +269,7 @@ public final class PromiseTests {
             Check.good(x, "close(1, 0, 2)", x.close(1, 0, 2), 0);
         }
         Check.good(x, "house()", Check.house(x, "room a;"), 0);
-        int[] want = {1, 0, 0, 0, 4, 0, 0};
-        for (int i = 0; i < 7; i++) {
-            Check.good(x, "told(" + i + ")", x.told(i), want[i]);
-        }
+        Check.toldIs(x, 1, 0, 0, 0, 4, 0, 0);
         for (int p = 0; p < 2; p++) {
             Check.good(x, "come(0)", x.come(0), p);
             for (int w = 0; w < 4; w++) {
@@ -305,10 +302,7 @@ public final class PromiseTests {
             text.append("person abcdefg").append((char) ('a' + i)).append(" in g deaf 9 knows w v u t s r q;");
         }
         Check.good(x, "house()", Check.house(x, text.toString()), 5);
-        int[] want = {7, 10, 7, 5, 16, 1023, 0};
-        for (int i = 0; i < 7; i++) {
-            Check.good(x, "told(" + i + ")", x.told(i), want[i]);
-        }
+        Check.toldIs(x, 7, 10, 7, 5, 16, 1023, 0);
         Check.good(x, "person(4, 2)", x.person(4, 2), 127);
         Check.good(x, "person(4, 0)", x.person(4, 0), 6);
         Check.bad(x, "coin()", coinOf(x, 1, 1, 1), 4);
@@ -1140,33 +1134,28 @@ public final class PromiseTests {
         Check.bad(x, "moveOf(0, 4) without DOORS", x.moveOf(0, 4), 6);
     }
 
-    private static void galeIs(DoorTongue x, int n, int k, long top, long bottom) {
-        Check.good(x, "gale(" + n + ", " + k + ")", x.gale(n, k));
-        Check.fraction(x, "gale(" + n + ", " + k + ")", top, bottom);
-    }
-
     private static void promise51() {
         Check.at("51");
         DoorTongue x = new DoorTongue();
-        galeIs(x, 1, 1, 1, 4);
-        galeIs(x, 2, 1, 7, 16);
-        galeIs(x, 12, 12, 1, 1L << 24);
-        galeIs(x, 0, 0, 1, 1);
-        galeIs(x, 0, 1, 0, 1);
-        galeIs(x, 5, 6, 0, 1);
-        galeIs(x, 12, 0, 1, 1);
+        Check.galeIs(x, 1, 1, 1, 4);
+        Check.galeIs(x, 2, 1, 7, 16);
+        Check.galeIs(x, 12, 12, 1, 1L << 24);
+        Check.galeIs(x, 0, 0, 1, 1);
+        Check.galeIs(x, 0, 1, 0, 1);
+        Check.galeIs(x, 5, 6, 0, 1);
+        Check.galeIs(x, 12, 0, 1, 1);
         x.rule(16);
-        galeIs(x, 12, 12, 1, 1);
+        Check.galeIs(x, 12, 12, 1, 1);
         x.rule(0);
-        galeIs(x, 12, 1, 0, 1);
-        galeIs(x, 12, 0, 1, 1);
+        Check.galeIs(x, 12, 1, 0, 1);
+        Check.galeIs(x, 12, 0, 1, 1);
         x.rule(1);
-        galeIs(x, 12, 12, 1, 1L << 48);
+        Check.galeIs(x, 12, 12, 1, 1L << 48);
         x.rule(3);
-        galeIs(x, 3, 2, 189, 2048);
+        Check.galeIs(x, 3, 2, 189, 2048);
         x.rule(8);
         // 6 and more of 12 by halves: 924 and half of what is left of 4,096.
-        galeIs(x, 12, 6, 1255, 2048);
+        Check.galeIs(x, 12, 6, 1255, 2048);
         Check.bad(x, "gale(13, 0)", x.gale(13, 0), 1);
         Check.bad(x, "gale(0, 13)", x.gale(0, 13), 1);
         Check.bad(x, "gale(-1, 0)", x.gale(-1, 0), 1);
@@ -1201,12 +1190,6 @@ public final class PromiseTests {
         promise55();
     }
 
-    private static void livedIs(DoorTongue x, int... want) {
-        for (int i = 0; i < 5; i++) {
-            Check.good(x, "lived(" + i + ")", x.lived(i), want[i]);
-        }
-    }
-
     /** Seed 1 draws 1833, seed 2 2236; then s is 14670 and 17891. */
     private static void promise53() {
         Check.at("53");
@@ -1215,10 +1198,10 @@ public final class PromiseTests {
         Check.bad(x, "live(10000)", x.live(10000), 1);
         Check.good(x, "live(1)", x.live(1), 1);
         Check.good(x, "told(5)", x.told(5), 3);
-        livedIs(x, 0, 0, 0, 0, 0);
+        Check.livedIs(x, 0, 0, 0, 0, 0);
         Check.good(x, "live(2)", x.live(2), 1);
         Check.good(x, "told(5)", x.told(5), 2);
-        livedIs(x, 0, 1, 1, 0, 0);
+        Check.livedIs(x, 0, 1, 1, 0, 0);
         Check.heardRow(x, 0, 0);
         Check.heardRow(x, 1);
         Check.good(x, "told(6)", x.told(6), 1);
@@ -1236,7 +1219,7 @@ public final class PromiseTests {
         Check.good(x, "told(5) behind five draws", x.told(5), open);
         x = Check.with("room a;", "any;any;");
         Check.good(x, "live(0) without DOORS", x.live(0), 2);
-        livedIs(x, 2, 0, 0, 0, 0);
+        Check.livedIs(x, 2, 0, 0, 0, 0);
     }
 
     private static void promise53Steps() {
@@ -1244,7 +1227,7 @@ public final class PromiseTests {
             + "forget p;forget q;close r 1 slam;close r 0 slam;open p 1;forget q;");
         Check.good(x, "live(0)", x.live(0), 13);
         // MISSED: 1 close of what is shut, 3 open, 4 go, 7 forget p, 9 shut, 10 elsewhere, 11 elsewhere, 12.
-        livedIs(x, 8, 1, 1, 2, 0);
+        Check.livedIs(x, 8, 1, 1, 2, 0);
         Check.good(x, "person(1, 0)", x.person(1, 0), 2);
         Check.good(x, "told(5)", x.told(5), 5);
         Check.good(x, "told(6)", x.told(6), 1);
@@ -1252,29 +1235,29 @@ public final class PromiseTests {
             + "when heard q < 4;go p 0;end;when heard q > 4;go p 0;end;when open 0;go p 0;end;"
             + "when in p a;open p 0;end;when in p b;forget q;end;stop;any;");
         Check.good(x, "live(0)", x.live(0), 13);
-        livedIs(x, 0, 4, 4, 0, 0);
+        Check.livedIs(x, 0, 4, 4, 0, 0);
         Check.good(x, "told(5)", x.told(5), 1);
         Check.heardRow(x, 1, 3, 3, 3, 2);
         Check.good(x, "live(0) again", x.live(0), 14);
         Check.good(x, "told(5)", x.told(5), 1);
         Check.heardRow(x, 1, 3, 3, 3, 2, 3, 3, 3);
-        livedIs(x, 1, 3, 3, 2, 0);
+        Check.livedIs(x, 1, 3, 3, 2, 0);
         x = Check.with(PAIR, "loop 2;loop 3;go p 0;end;go q 0;end;");
         Check.good(x, "live(0)", x.live(0), 1 + 2 * (1 + 3 + 1));
-        livedIs(x, 0, 0, 0, 8, 0);
+        Check.livedIs(x, 0, 0, 0, 8, 0);
         x = Check.with(PAIR, "loop 9;go p 0;when in p b;stop;end;end;");
         Check.good(x, "live(0)", x.live(0), 4);
-        livedIs(x, 0, 0, 0, 1, 0);
+        Check.livedIs(x, 0, 0, 0, 1, 0);
     }
 
     private static void promise53Most() {
         String most = "loop 99;go p 0;go p 0;go p 0;end;go p 0;";
         DoorTongue x = Check.with(PAIR, most + "go q 0;");
         Check.good(x, "live(0) of just 300", x.live(0), 300);
-        livedIs(x, 0, 0, 0, 299, 0);
+        Check.livedIs(x, 0, 0, 0, 299, 0);
         x = Check.with(PAIR, most + "go q 0;go q 0;");
         Check.good(x, "live(0) of 301", x.live(0), 300);
-        livedIs(x, 0, 0, 0, 299, 1);
+        Check.livedIs(x, 0, 0, 0, 299, 1);
         Check.good(x, "person(1, 0)", x.person(1, 0), 0);
         x = Check.with(PAIR, most + "go q 0;stop;");
         Check.good(x, "live(0) of 300 and a stop", x.live(0), 300);
@@ -1290,7 +1273,7 @@ public final class PromiseTests {
         Check.good(x, "lived(4)", x.lived(4), 1);
         x = Check.with("room a;", "loop 99;loop 99;any;end;end;");
         Check.good(x, "live(0) of loops", x.live(0), 300);
-        livedIs(x, 296, 0, 0, 0, 1);
+        Check.livedIs(x, 296, 0, 0, 0, 1);
         x = Check.with("room a;", "loop 99;loop 99;loop 99;end;end;end;");
         Check.good(x, "live(0) of empty loops", x.live(0), 300);
         Check.good(x, "lived(4)", x.lived(4), 1);
@@ -1305,7 +1288,7 @@ public final class PromiseTests {
         Check.good(x, "lived(4)", x.lived(4), 1);
         x.days(0);
         Check.good(x, "live(0) of no STEPS", x.live(0), 0);
-        livedIs(x, 0, 0, 0, 0, 0);
+        Check.livedIs(x, 0, 0, 0, 0, 0);
     }
 
     private static void promise54() {
@@ -1316,15 +1299,15 @@ public final class PromiseTests {
         x.mean(1, 1);
         Check.bad(x, "lived(0): a mean is none", x.lived(0), 6);
         x.live(0);
-        livedIs(x, 1, 1, 1, 0, 0);
+        Check.livedIs(x, 1, 1, 1, 0, 0);
         Check.bad(x, "lived(5)", x.lived(5), 1);
         Check.bad(x, "lived(-1)", x.lived(-1), 1);
         x.live(10000);
         x.mean(1, 20);
-        livedIs(x, 1, 1, 1, 0, 0);
+        Check.livedIs(x, 1, 1, 1, 0, 0);
         Check.house(x, "");
         Check.bad(x, "live(0)", x.live(0), 6);
-        livedIs(x, 1, 1, 1, 0, 0);
+        Check.livedIs(x, 1, 1, 1, 0, 0);
     }
 
     private static void promise55() {
@@ -1342,7 +1325,7 @@ public final class PromiseTests {
         Check.fraction(x, "mean(1, 2)", 1, 1);
         x.mean(2, 1);
         Check.fraction(x, "mean(2, 1)", 0, 1);
-        livedIs(x, 0, 0, 0, 0, 0);
+        Check.livedIs(x, 0, 0, 0, 0, 0);
         Check.good(x, "mean(9999, 1)", x.mean(9999, 1));
         Check.good(x, "mean(9980, 20)", x.mean(9980, 20));
         Check.bad(x, "mean(9981, 20)", x.mean(9981, 20), 1);
@@ -1405,17 +1388,17 @@ public final class PromiseTests {
         DoorTongue x = Check.with(PAIR, days);
         x.mark();
         x.live(0);
-        livedIs(x, 0, 2, 2, 2, 0);
+        Check.livedIs(x, 0, 2, 2, 2, 0);
         for (int i = 0; i < 3; i++) {
             Check.days(x, others);
             Check.good(x, "live(1) of others", x.live(1) > 9 ? 1 : 0, 1);
         }
         Check.good(x, "undo()", x.undo(), 0);
         Check.good(x, "live(0) of the DAYS taken back", x.live(0), 10);
-        livedIs(x, 0, 2, 2, 2, 0);
+        Check.livedIs(x, 0, 2, 2, 2, 0);
         Check.good(x, "person(0, 0)", x.person(0, 0), 1);
         Check.good(x, "person(1, 0)", x.person(1, 0), 0);
         Check.good(x, "live(0) again", x.live(0), 9);
-        livedIs(x, 0, 2, 2, 1, 0);
+        Check.livedIs(x, 0, 2, 2, 1, 0);
     }
 }

@@ -9,10 +9,7 @@ final class ToldEdges {
     @Edge(promise = 13, says = "ODDS (4); the set of DOORS that are OPEN (1 for DOOR 0 ..) (5)")
     static void toldOfEach() {
         DoorTongue x = Check.with(PromiseTests.PLAIN);
-        int[] want = {4, 3, 4, 3, 8, 5, 0};
-        for (int what = 0; what < 7; what++) {
-            Check.good(x, "told(" + what + ")", x.told(what), want[what]);
-        }
+        Check.toldIs(x, 4, 3, 4, 3, 8, 5, 0);
     }
 
     @Edge(promise = 13, says = "1 a number that can't be")

@@ -85,6 +85,24 @@ final class TrayEdges {
         Check.good(x, "told(0) of the other one", x.told(0), 4);
     }
 
+    @Edge(promise = 1, says = "An object is used for at most 512 calls after it has been made")
+    static void fiveHundredAndTwelveCalls() {
+        DoorTongue x = new DoorTongue();
+        // room a;room b;door a b open;person p in a;person q in b;
+        x.feed(0x726f6f6d, 0x20613b72, 0x6f6f6d20, 0x623b646f, 0x6f722061);
+        x.feed(0x2062206f, 0x70656e3b, 0x70657273, 0x6f6e2070, 0x20696e20);
+        x.feed(0x613b7065, 0x72736f6e, 0x20712069, 0x6e20623b, 0x20202020);
+        Check.due("house(60)", x.house(60), 2);
+        // loop 99;close p 0 ajar;end;
+        x.feed(0x6c6f6f70, 0x2039393b, 0x636c6f73, 0x65207020, 0x3020616a);
+        x.feed(0x61723b65, 0x6e643b20, 0x20202020, 0x20202020, 0x20202020);
+        Check.due("days(40)", x.days(40), 2);
+        for (int calls = 7; calls < 511; calls++) {
+            Check.due("live(0)", x.live(0), 100);
+        }
+        Check.due("told(6), the 512th call", x.told(6), 99 * 504);
+    }
+
     @Edge(promise = 2, says = "STATUS of the latest call that has one")
     static void statusIsOfTheLatest() {
         DoorTongue x = new DoorTongue();
