@@ -1,3 +1,5 @@
+import java.util.List;
+
 /** Edges of promises 9 to 12: the tape, house(), days(), fault(). */
 final class TapeEdges {
     private static final int BIG = Integer.MAX_VALUE;
@@ -80,6 +82,20 @@ final class TapeEdges {
         Check.bad(x, "house(900)", x.house(900), 9);
         Check.due("fault(0)", x.fault(0), 2);
         Check.due("fault(1)", x.fault(1), 900);
+    }
+
+    @Edge(promise = 10, says = "A HOUSE is a TEXT of at most 900 bytes.")
+    static void aFullTapeThatEndsWithinAWord() {
+        for (String word : Check.RESERVED) {
+            for (int length = 1; length <= word.length(); length++) {
+                String end = word.substring(0, length);
+                boolean isPart = List.of("odds", "room", "door", "word", "person").contains(end);
+                Check.houseFault(" ".repeat(900 - length) + (isPart ? end + "^" : "^" + end), 2);
+            }
+        }
+        Check.houseFault(" ".repeat(895) + "^12345", 1);
+        Check.houseFault(" ".repeat(896) + "^1234", 2);
+        Check.houseFault(" ".repeat(899) + "^;", 2);
     }
 
     @Edge(promise = 10, says = "The first n bytes of the tape (which is empty then) are the HOUSE: how many PEOPLE")
