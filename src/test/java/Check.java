@@ -169,8 +169,13 @@ final class Check {
         }
     }
 
-    /** Everything that can be asked of an object without changing it, for "changes nothing else". */
+    /** The HOUSE, what became of it and the FRACTION, for "changes nothing else". */
     static String all(DoorTongue x) {
+        return houseOf(x) + x.top() + '/' + x.bottom();
+    }
+
+    /** All that can be asked of the HOUSE and of what became of it without changing it. */
+    static String houseOf(DoorTongue x) {
         StringBuilder told = new StringBuilder();
         for (int i = 0; i < 7; i++) {
             told.append(x.told(i)).append(' ');
@@ -195,7 +200,7 @@ final class Check {
             }
             told.append('/');
         }
-        return told.append(x.top()).append('/').append(x.bottom()).toString();
+        return told.toString();
     }
 
     /** What told() tells: ROOMS, DOORS, WORDS, PEOPLE, ODDS, the OPEN ones, how often a SOUND was made. */

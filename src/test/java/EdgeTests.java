@@ -13,7 +13,8 @@ import java.util.TreeSet;
 public final class EdgeTests {
     private static final List<Class<?>> ALL = List.of(TrayEdges.class, TokenEdges.class, HouseTextEdges.class,
         DaysTextEdges.class, TapeEdges.class, ToldEdges.class, DeedEdges.class, HearingEdges.class,
-        MeaningEdges.class, WayEdges.class, GameEdges.class, DaysEdges.class, MarkEdges.class, StatusEdges.class);
+        MeaningEdges.class, WayEdges.class, GameEdges.class, DaysEdges.class, MarkEdges.class, StatusEdges.class,
+        StayEdges.class);
     private static final int PROMISES = 57;
 
     private EdgeTests() {
