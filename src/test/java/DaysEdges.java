@@ -86,6 +86,17 @@ final class DaysEdges {
         Check.good(x, "told(6)", x.told(6), 1);
     }
 
+    @Edge(promise = 53, says = "if it is OPEN, a slam is HEARD by all, made by nobody, and it is shut, else it is OPEN")
+    static void theWindBehindOtherDays() {
+        DoorTongue x = Check.with(PAIR + "door a b;", "close p 1 shut;close p 1 shut;");
+        Check.days(x, "close q 1 latch;close q 1 latch;");
+        Check.good(x, "days()", Check.days(x, "any;any;"), 2);
+        Check.good(x, "live(0): at DOOR 1, then at DOOR 0", x.live(0), 2);
+        Check.good(x, "told(5)", x.told(5), 2);
+        Check.heardRow(x, 0, 0);
+        Check.heardRow(x, 1, 0);
+    }
+
     @Edge(promise = 53, says = "any without DOORS (no draw)")
     static void theWindWithoutDoors() {
         DoorTongue x = live("room a;person p in a;", "any;any;", 2);

@@ -113,6 +113,45 @@ final class MarkEdges {
         Check.bad(x, "days() by the new ones", Check.days(x, "forget o;"), 9);
     }
 
+    /** As many of all as there can be; the NAMES end in that letter. */
+    private static String full(char last) {
+        String house = "odds 11;room aZ;room bZ;room cZ;room dZ;room eZ;room fZ;room gZ;"
+            + "door aZ bZ open;door bZ aZ baize 1;door aZ cZ baize 2 open;door cZ dZ baize 3;door dZ eZ open;"
+            + "door eZ fZ baize 5;door fZ gZ baize 6 open;door gZ aZ baize 7;door gZ bZ baize 8;door gZ fZ baize 9 open;"
+            + "word hZ says slam slam slam slam;word iZ says shut shut shut shut;word jZ says latch ajar latch ajar;"
+            + "word kZ says latch;word lZ says ajar ajar;word mZ says slam shut latch ajar;word nZ says ajar slam;"
+            + "person oZ in gZ deaf 5 knows nZ;person pZ in bZ knows hZ iZ jZ kZ lZ mZ nZ;person qZ in aZ deaf 1;"
+            + "person rZ in fZ deaf 9;person sZ in aZ deaf 2 knows kZ;";
+        return house.replace('Z', last);
+    }
+
+    @Edge(promise = 57, says = "the HOUSE with all that became of it")
+    static void aFullHouseTakenBack() {
+        DoorTongue x = Check.with(full('x'));
+        for (int i = 0; i < 9; i++) {
+            x.close(2, 0, 3);
+            x.close(1, 0, i % 2 == 0 ? 2 : 0);
+            x.open(2, 0);
+        }
+        String ahead = Check.houseOf(x);
+        x.mark();
+        String other = full('y').replace("person sy in ay", "person sy in gy").replace("open;door", ";door")
+            .replace("door gy", "door cy").replace("latch", "?").replace("ajar", "latch").replace("?", "ajar");
+        for (int i = 0; i < 2; i++) {
+            Check.good(x, "house() with other DOORS and WORDS", Check.house(x, other), 5);
+        }
+        x.mark();
+        Check.house(x, PAIR);
+        x.undo();
+        Check.good(x, "days() by the second NAMES", Check.days(x, "when in sy gy;end;when in oy ey;end;"), 2);
+        x.undo();
+        Check.same("undo()", Check.houseOf(x), ahead);
+        Check.good(x, "days() by all NAMES", Check.days(x, "when in ox ax;end;when in px bx;end;when in qx cx;end;"
+            + "when in rx dx;end;when in sx ex;end;when in ox fx;end;when in px gx;end;"), 7);
+        Check.bad(x, "days() by the second NAMES", Check.days(x, "when in ox gy;end;"), 9);
+        Check.due("fault(0)", x.fault(0), 3);
+    }
+
     @Edge(promise = 57, says = "the DAYS are kept as they are")
     static void daysOfEachKindTakenBack() {
         DoorTongue x = Check.with(PAIR, "when heard q = 0;loop 2;close p 0 ajar;end;end;when in q b;go q 0;end;"

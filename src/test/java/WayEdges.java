@@ -202,6 +202,18 @@ final class WayEdges {
     }
 
     @Edge(promise = 47, says = "the fewest shut DOORS to be OPENED so that one can")
+    static void togetherWhereOneCanAlready() {
+        DoorTongue x = Check.with("room a;room b;room c;door a c;door a b open;door b c open;person p in a;person q in c;"
+            + "person r in b;");
+        for (int other = 1; other <= 2; other++) {
+            Check.good(x, "together(0, " + other + ")", x.together(0, other), 0);
+            Check.good(x, "together(" + other + ", 0)", x.together(other, 0), 0);
+        }
+        Check.good(x, "close(1, 2, 1)", x.close(1, 2, 1), 5);
+        Check.good(x, "together(0, 1)", x.together(0, 1), 1);
+    }
+
+    @Edge(promise = 47, says = "the fewest shut DOORS to be OPENED so that one can")
     static void togetherByTheLastOfTen() {
         DoorTongue x = Check.with("room a;room b;room c;person p in a;person q in c;" + "door a b;".repeat(9) + "door c b;");
         Check.good(x, "together(0, 1)", x.together(0, 1), 2);
