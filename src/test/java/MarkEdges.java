@@ -125,27 +125,43 @@ final class MarkEdges {
         return house.replace('Z', last);
     }
 
-    @Edge(promise = 57, says = "the HOUSE with all that became of it")
-    static void aFullHouseTakenBack() {
-        DoorTongue x = Check.with(full('x'));
+    private static DoorTongue lived(String house) {
+        DoorTongue x = Check.with(house);
         for (int i = 0; i < 9; i++) {
             x.close(2, 0, 3);
             x.close(1, 0, i % 2 == 0 ? 2 : 0);
             x.open(2, 0);
         }
-        String ahead = Check.houseOf(x);
-        x.mark();
-        String other = full('y').replace("person sy in ay", "person sy in gy").replace("open;door", ";door")
+        return x;
+    }
+
+    /** With other DOORS and WORDS. */
+    private static String other() {
+        return full('y').replace("person sy in ay", "person sy in gy").replace("open;door", ";door")
             .replace("door gy", "door cy").replace("latch", "?").replace("ajar", "latch").replace("?", "ajar");
+    }
+
+    @Edge(promise = 57, says = "the HOUSE with all that became of it")
+    static void aFullHouseTakenBack() {
+        DoorTongue x = lived(full('x'));
+        x.mark();
         for (int i = 0; i < 2; i++) {
-            Check.good(x, "house() with other DOORS and WORDS", Check.house(x, other), 5);
+            Check.good(x, "house()", Check.house(x, other()), 5);
         }
+        Check.good(x, "undo()", x.undo(), 0);
+        Check.same("undo()", Check.houseOf(x), Check.houseOf(lived(full('x'))));
+    }
+
+    @Edge(promise = 57, says = "the HOUSE with all that became of it")
+    static void allNamesTakenBack() {
+        DoorTongue x = Check.with(full('x'));
+        x.mark();
+        Check.house(x, other());
         x.mark();
         Check.house(x, PAIR);
-        x.undo();
+        Check.good(x, "undo()", x.undo(), 1);
         Check.good(x, "days() by the second NAMES", Check.days(x, "when in sy gy;end;when in oy ey;end;"), 2);
-        x.undo();
-        Check.same("undo()", Check.houseOf(x), ahead);
+        Check.good(x, "undo()", x.undo(), 0);
         Check.good(x, "days() by all NAMES", Check.days(x, "when in ox ax;end;when in px bx;end;when in qx cx;end;"
             + "when in rx dx;end;when in sx ex;end;when in ox fx;end;when in px gx;end;"), 7);
         Check.bad(x, "days() by the second NAMES", Check.days(x, "when in ox gy;end;"), 9);
